@@ -385,7 +385,7 @@ public final class EachIsHit {
     }
 
     public int worth(int rule, int set) {
-        return isNoRule(rule) || isNoSet(set) ? BAD : tells(rule, set, 0);
+        return isNoRule(rule) || isNoSet(set) ? BAD : tellsNow(rule, set);
     }
 
     public int best(int f, int rule, int what) {
@@ -397,11 +397,11 @@ public final class EachIsHit {
         if (best == NONE) {
             return NONE;
         }
-        int lowest = tells(rule, best, 0);
+        int lowest = tellsNow(rule, best);
         int set = best;
         for (int left = least.countAll() - 1; left > 0; left--) {
             set = least.next(set + 1);
-            int told = tells(rule, set, 0);
+            int told = tellsNow(rule, set);
             if (told < lowest) {
                 lowest = told;
                 best = set;
@@ -419,7 +419,7 @@ public final class EachIsHit {
             return PLACE;
         }
         for (int i = 0; i < family.held; i++) {
-            worths[i] = tells(rule, family.sets[i], 0);
+            worths[i] = tellsNow(rule, family.sets[i]);
         }
         int i = 0;
         while (i < family.held - 1 && rankOf(i, family.held) != k) {
@@ -435,7 +435,7 @@ public final class EachIsHit {
         Family family = now.families[f];
         int sum = 0;
         for (int k = 0; k < family.held; k++) {
-            sum += family.tallies[k] * tells(rule, family.sets[k], 0);
+            sum += family.tallies[k] * tellsNow(rule, family.sets[k]);
         }
         return sum;
     }
@@ -759,12 +759,31 @@ public final class EachIsHit {
         }
     }
 
-    /** What a rule tells; a rule's parts came ahead of it, so that the depth stays below the number of rules. */
+    /** What a rule tells of a set, as things are now. */
+    private int tellsNow(int number, int set) {
+        for (int i = 0; i < MOST_RULES; i++) {
+            rules[i].lastSet = NONE;
+        }
+        return tells(number, set, 0);
+    }
+
+    /**
+     * What a rule tells; a rule's parts came ahead of it, so that the depth stays below the number of rules.
+     * It keeps its last answer, as rules of rules of rules ask the same part of the same set again and again.
+     */
     private int tells(int number, int set, int depth) {
         if (isNoRule(number) || depth >= MOST_RULES) {
             return 0;
         }
         Rule rule = rules[number];
+        if (rule.lastSet != set) {
+            rule.lastAnswer = tellsByParts(rule, set, depth);
+            rule.lastSet = set;
+        }
+        return rule.lastAnswer;
+    }
+
+    private int tellsByParts(Rule rule, int set, int depth) {
         switch (rule.how) {
             case RULE_SUM:
                 return tells(rule.a, set, depth + 1) + tells(rule.b, set, depth + 1);
@@ -1010,10 +1029,13 @@ public final class EachIsHit {
         int b;
         int c;
         final int[] prices;
+        int lastSet;
+        int lastAnswer;
 
         Rule(int how) {
             this.how = how;
             prices = new int[POINTS];
+            lastSet = NONE;
         }
 
         void become(int newHow, int newA, int newB, int newC, int[] newPrices) {
