@@ -1,9 +1,15 @@
 /** Counts answers, and prints those that are not the ones that are due. */
 final class Due {
+    private static String test = "";
     private static int right = 0;
     private static int wrong = 0;
 
     private Due() {
+    }
+
+    /** All that comes is said to be of this test. */
+    static void of(String name) {
+        test = name + ": ";
     }
 
     static void due(String call, long got, long want) {
@@ -11,7 +17,7 @@ final class Due {
             right++;
         } else {
             wrong++;
-            System.out.println(call + " answered " + got + ", due is " + want);
+            System.out.println(test + call + " answered " + got + ", due is " + want);
         }
     }
 
