@@ -36,6 +36,7 @@ public final class FamiliesBoundsTest {
 
     // ---- 1: a new object
 
+    @Says("All FAMILIES hold none;")
     private static void promise01AllFamiliesHoldNone() {
         EachIsHit x = new EachIsHit();
         for (int f = 0; f < 4; f++) {
@@ -46,6 +47,7 @@ public final class FamiliesBoundsTest {
         due("a family beyond", x.size(4), BAD);
     }
 
+    @Says("RULES 0 .. 3.")
     private static void promise01Rules0To3() {
         EachIsHit x = new EachIsHit();
         due("count", x.count(0), 4);
@@ -55,6 +57,7 @@ public final class FamiliesBoundsTest {
         due("rule 4", x.worth(4, 5), BAD);
     }
 
+    @Says("each with a PRICE (0 .. 99; 1 at first).")
     private static void promise01PricesAre1AtFirst() {
         EachIsHit x = new EachIsHit();
         for (int p = 0; p < 12; p++) {
@@ -63,6 +66,7 @@ public final class FamiliesBoundsTest {
         due("together", x.count(2), 12);
     }
 
+    @Says("or missing (-1; at first).")
     private static void promise01NothingIsRememberedKeptOrWritten() {
         EachIsHit x = new EachIsHit();
         due("acts", x.count(1), 0);
@@ -87,6 +91,7 @@ public final class FamiliesBoundsTest {
 
     // ---- 2, 3: prices
 
+    @Says({"PRICE of a POINT becomes v: what it was.", "BAD.", "POINTS 0 .. 11,"})
     private static void promise02PointIs0To11() {
         Still.bounds("point", 0, 11, (x, v) -> x.price(v, 5));
         EachIsHit x = new EachIsHit();
@@ -98,6 +103,7 @@ public final class FamiliesBoundsTest {
         due("priceOf 11", x.priceOf(11), 6);
     }
 
+    @Says({"PRICE of a POINT becomes v: what it was.", "BAD.", "each with a PRICE (0 .. 99; 1 at first)."})
     private static void promise02PriceIs0To99() {
         Still.bounds("price", 0, 99, (x, v) -> x.price(5, v));
         EachIsHit x = new EachIsHit();
@@ -107,11 +113,13 @@ public final class FamiliesBoundsTest {
         due("priceOf", x.priceOf(5), 98);
     }
 
+    @Says("BAD.")
     private static void promise02BothWrong() {
         Still.bad("point and price", x -> x.price(-1, 100));
         Still.bad("point and price", x -> x.price(12, -1));
     }
 
+    @Says("by price() that a PRICE became another one;")
     private static void promise02LikePriceIsNotRemembered() {
         Still.after(x -> x.price(5, 7), "the price as it is", x -> x.price(5, 7), 7);
         Still.is("the first price as it is", x -> x.price(1, 8), 8);
@@ -122,6 +130,7 @@ public final class FamiliesBoundsTest {
         due("acts", x.count(1), 1);
     }
 
+    @Says({"PRICE.", "BAD."})
     private static void promise03PointIs0To11() {
         Still.bounds("point", 0, 11, (x, v) -> x.priceOf(v));
         Still.is("priceOf 0", x -> x.priceOf(0), 98);
@@ -132,6 +141,7 @@ public final class FamiliesBoundsTest {
 
     // ---- 4: tell
 
+    @Says({"BAD;", "FAMILIES 0 .. 3 hold SETS,"})
     private static void promise04FamilyIs0To3() {
         Still.bounds("family", 0, 3, (x, v) -> x.tell(v, 3));
         EachIsHit x = new EachIsHit();
@@ -141,6 +151,7 @@ public final class FamiliesBoundsTest {
         due("size 2", x.size(2), 0);
     }
 
+    @Says({"BAD;", "A SET of POINTS is told by bits (0 .. 4095)."})
     private static void promise04SetIs0To4095() {
         Still.bounds("set", 0, 4095, (x, v) -> x.tell(1, v));
         EachIsHit x = new EachIsHit();
@@ -149,6 +160,7 @@ public final class FamiliesBoundsTest {
         dueAll(x, 0, 0, 4095);
     }
 
+    @Says({"FULL: it holds 40 others.", "40 at most,"})
     private static void promise04FullAt40Others() {
         EachIsHit x = filled(39);
         due("the 40th", x.tell(1, 7), 1);
@@ -162,6 +174,7 @@ public final class FamiliesBoundsTest {
         Still.is("full for all points", y -> y.tell(2, 4095), FULL);
     }
 
+    @Says("FULL: it holds 40 others.")
     private static void promise04FullHoldsItAlready() {
         EachIsHit x = filled(40);
         due("the first", x.tell(1, 100), 2);
@@ -171,6 +184,7 @@ public final class FamiliesBoundsTest {
         due("their places", x.at(1, 39), 139);
     }
 
+    @Says("FULL: it holds 40 others.")
     private static void promise04FullNoMoreWhenOneIsTaken() {
         EachIsHit x = filled(40);
         due("full", x.tell(1, 7), FULL);
@@ -180,11 +194,17 @@ public final class FamiliesBoundsTest {
         due("it came last", x.at(1, 39), 7);
     }
 
+    @Says("of several the one that stands first with it;")
     private static void promise04BadAheadOfFull() {
         Still.is("a set below, full", x -> x.tell(2, -1), BAD);
         Still.is("a set above, full", x -> x.tell(2, 4096), BAD);
     }
 
+    @Says({
+        "A SET is TOLD to a FAMILY: its TALLY.",
+        "To TELL a SET to a FAMILY: if it holds it, its TALLY is 1 more (99 stays),",
+        "each with its TALLY (1 .. 99).",
+    })
     private static void promise04Tally99Stays() {
         EachIsHit x = tallied(9, 98);
         due("to 99", x.tell(1, 9), 99);
@@ -194,9 +214,36 @@ public final class FamiliesBoundsTest {
             for (int t = 0; t < 99; t++) {
                 y.tell(1, 9);
             }
+            y.wipe(0);
         }, "a tally that stays", y -> y.tell(1, 9), 99);
     }
 
+    @Says("by tell() a SET that was TOLD, if that changed anything;")
+    private static void promise04TallyThatStaysIsNotRemembered() {
+        // With twenty acts of the same kind one more would not be seen: they are forgotten ahead.
+        EachIsHit x = tallied(9, 99);
+        x.copy(1, 1);
+        due("99 stays", x.tell(1, 9), 99);
+        due("acts", x.count(1), 0);
+        due("undo", x.undo(), NONE);
+        due("tally", x.tally(1, 9), 99);
+        x.take(1, 9);
+        due("to 99 again", x.tell(1, 9), 99);
+        due("acts", x.count(1), 2);
+        due("99 stays", x.tell(1, 9), 99);
+        due("acts", x.count(1), 2);
+        due("undo the tell", x.undo(), 1);
+        due("tally", x.tally(1, 9), 98);
+        due("undo the take", x.undo(), 0);
+        due("tally", x.tally(1, 9), 99);
+    }
+
+    @Says({
+        "A SET is TOLD to a FAMILY: its TALLY.",
+        "its place stays;",
+        "else it comes last, with TALLY 1.",
+        "in the order in which they came to it,",
+    })
     private static void promise04PlaceStaysElseLast() {
         EachIsHit x = filled(3);
         due("again", x.tell(1, 100), 2);
@@ -207,10 +254,12 @@ public final class FamiliesBoundsTest {
 
     // ---- 5: take
 
+    @Says("BAD;")
     private static void promise05FamilyIs0To3() {
         Still.bounds("family", 0, 3, (x, v) -> x.take(v, 3));
     }
 
+    @Says("BAD;")
     private static void promise05SetIs0To4095() {
         Still.bounds("set", 0, 4095, (x, v) -> x.take(1, v));
         EachIsHit x = new EachIsHit();
@@ -221,6 +270,11 @@ public final class FamiliesBoundsTest {
         due("size", x.size(0), 0);
     }
 
+    @Says({
+        "A SET is TAKEN from a FAMILY: its TALLY (0: it is gone).",
+        "To TAKE one from it: its TALLY is 1 less;",
+        "at 0 it holds it no more",
+    })
     private static void promise05Tally2To1To0() {
         EachIsHit x = tallied(9, 2);
         due("to 1", x.take(1, 9), 1);
@@ -230,12 +284,14 @@ public final class FamiliesBoundsTest {
         due("none such", x.take(1, 9), NONE);
     }
 
+    @Says("To TAKE one from it: its TALLY is 1 less;")
     private static void promise05From99() {
         EachIsHit x = tallied(9, 99);
         due("to 98", x.take(1, 9), 98);
         due("tally", x.tally(1, 9), 98);
     }
 
+    @Says("NONE: it holds none such.")
     private static void promise05NoneSuch() {
         Still.after(x -> { }, "from an empty family", x -> x.take(0, 0), NONE);
         Still.is("from a family of others", x -> x.take(0, 5), NONE);
@@ -243,11 +299,13 @@ public final class FamiliesBoundsTest {
         Still.is("what was taken", x -> x.take(1, 6), NONE);
     }
 
+    @Says("of several the one that stands first with it;")
     private static void promise05BadAheadOfNone() {
         Still.after(x -> { }, "no set of an empty family", x -> x.take(0, 4096), BAD);
         Still.after(x -> { }, "no set of an empty family", x -> x.take(0, -1), BAD);
     }
 
+    @Says("(the others stay in order).")
     private static void promise05OthersStayInOrder() {
         EachIsHit x = filled(4);
         x.tell(1, 103);
@@ -261,6 +319,7 @@ public final class FamiliesBoundsTest {
         dueAll(x, 1, 101);
     }
 
+    @Says("(the others stay in order).")
     private static void promise05FromAFullFamily() {
         EachIsHit x = filled(40);
         due("the last", x.take(1, 139), 0);
@@ -274,16 +333,19 @@ public final class FamiliesBoundsTest {
 
     // ---- 6, 7, 8: tally, at, size
 
+    @Says("BAD.")
     private static void promise06FamilyIs0To3() {
         Still.bounds("family", 0, 3, (x, v) -> x.tally(v, 3));
     }
 
+    @Says("BAD.")
     private static void promise06SetIs0To4095() {
         Still.bounds("set", 0, 4095, (x, v) -> x.tally(1, v));
         Still.is("the empty set", x -> x.tally(3, 0), 1);
         Still.is("all points", x -> x.tally(1, 4095), 1);
     }
 
+    @Says("TALLY (0: it holds none such).")
     private static void promise06ZeroIfItHoldsNoneSuch() {
         Still.after(x -> { }, "an empty family", x -> x.tally(0, 0), 0);
         Still.is("never told", x -> x.tally(0, 5), 0);
@@ -292,10 +354,12 @@ public final class FamiliesBoundsTest {
         Still.is("told twice", x -> x.tally(0, 3), 2);
     }
 
+    @Says("BAD: f;")
     private static void promise07FamilyIs0To3() {
         Still.bounds("family", 0, 3, (x, v) -> x.at(v, 0));
     }
 
+    @Says({"SET k (from 0 on) in order.", "PLACE."})
     private static void promise07PlaceIs0ToBelowSize() {
         Still.is("-1", x -> x.at(0, -1), PLACE);
         Still.is("0", x -> x.at(0, 0), 3);
@@ -306,11 +370,13 @@ public final class FamiliesBoundsTest {
         Still.after(x -> { }, "of an empty family", x -> x.at(0, 0), PLACE);
     }
 
+    @Says({"SET k (from 0 on) in order.", "PLACE."})
     private static void promise07PlaceOfAFullFamily() {
         Still.is("39", x -> x.at(2, 39), 8);
         Still.is("40", x -> x.at(2, 40), PLACE);
     }
 
+    @Says("PLACE.")
     private static void promise07PlaceWhereOneWasTaken() {
         EachIsHit x = filled(2);
         x.take(1, 101);
@@ -318,15 +384,18 @@ public final class FamiliesBoundsTest {
         due("1", x.at(1, 1), PLACE);
     }
 
+    @Says("of several the one that stands first with it;")
     private static void promise07BadAheadOfPlace() {
         Still.bad("no family, no place", x -> x.at(4, -1));
         Still.bad("no family, no place", x -> x.at(-1, 40));
     }
 
+    @Says("BAD.")
     private static void promise08FamilyIs0To3() {
         Still.bounds("family", 0, 3, (x, v) -> x.size(v));
     }
 
+    @Says("How many SETS a FAMILY holds.")
     private static void promise08From0To40() {
         Still.after(x -> { }, "none", x -> x.size(0), 0);
         Still.is("four", x -> x.size(0), 4);
@@ -337,10 +406,12 @@ public final class FamiliesBoundsTest {
 
     // ---- 9, 10: wipe, copy
 
+    @Says("BAD.")
     private static void promise09FamilyIs0To3() {
         Still.bounds("family", 0, 3, (x, v) -> x.wipe(v));
     }
 
+    @Says("It BECOMES empty: how many it held.")
     private static void promise09HowManyItHeld() {
         EachIsHit x = filled(40);
         due("forty", x.wipe(1), 40);
@@ -352,6 +423,7 @@ public final class FamiliesBoundsTest {
         due("the other ones told anew", x.at(1, 0), 139);
     }
 
+    @Says("It BECOMES empty: how many it held.")
     private static void promise09OthersStay() {
         EachIsHit x = Still.busyOne();
         due("wipe", x.wipe(1), 3);
@@ -362,6 +434,7 @@ public final class FamiliesBoundsTest {
         due("rules", x.count(0), 8);
     }
 
+    @Says("wipe(), copy(), lean(), into(), make(), unpacks(), back() forget them all,")
     private static void promise09ForgetsAllActs() {
         EachIsHit x = new EachIsHit();
         x.price(0, 2);
@@ -370,12 +443,14 @@ public final class FamiliesBoundsTest {
         due("the price stays", x.priceOf(0), 2);
     }
 
+    @Says("BAD.")
     private static void promise10FamiliesAre0To3() {
         Still.bounds("from", 0, 3, (x, v) -> x.copy(v, 1));
         Still.bounds("to", 0, 3, (x, v) -> x.copy(1, v));
         Still.bad("both", x -> x.copy(-1, 4));
     }
 
+    @Says("FAMILY g BECOMES as f is, TALLIES, order, too: how many SETS.")
     private static void promise10EmptyOntoFull() {
         EachIsHit x = filled(40);
         due("copy", x.copy(0, 1), 0);
@@ -383,6 +458,7 @@ public final class FamiliesBoundsTest {
         due("tally", x.tally(1, 100), 0);
     }
 
+    @Says("FAMILY g BECOMES as f is, TALLIES, order, too: how many SETS.")
     private static void promise10FullOntoEmpty() {
         EachIsHit x = filled(40);
         x.tell(1, 139);
@@ -394,6 +470,7 @@ public final class FamiliesBoundsTest {
         due("that it came from", x.size(1), 40);
     }
 
+    @Says("(f and g may be one and the same.)")
     private static void promise10OneAndTheSame() {
         EachIsHit x = filled(3);
         x.tell(1, 101);
@@ -404,6 +481,7 @@ public final class FamiliesBoundsTest {
         due("an empty one", x.copy(2, 2), 0);
     }
 
+    @Says("FAMILY g BECOMES as f is, TALLIES, order, too: how many SETS.")
     private static void promise10ApartFromThenOn() {
         EachIsHit x = filled(2);
         x.copy(1, 2);
@@ -415,6 +493,7 @@ public final class FamiliesBoundsTest {
         dueAll(x, 1, 100);
     }
 
+    @Says("wipe(), copy(), lean(), into(), make(), unpacks(), back() forget them all,")
     private static void promise10ForgetsAllActs() {
         EachIsHit x = new EachIsHit();
         x.price(0, 2);
@@ -424,6 +503,7 @@ public final class FamiliesBoundsTest {
 
     // ---- 11: undo
 
+    @Says("NONE: none is.")
     private static void promise11NoneIsRemembered() {
         Still.after(x -> { }, "a new object", x -> x.undo(), NONE);
         Still.afterMore(x -> x.wipe(0), "all forgotten", x -> x.undo(), NONE);
@@ -435,6 +515,7 @@ public final class FamiliesBoundsTest {
         due("the price", x.priceOf(3), 1);
     }
 
+    @Says({"how many are REMEMBERED still.", "Acts that are REMEMBERED, 20 at most (of more the oldest is forgotten):"})
     private static void promise11TwentyAtMost() {
         for (int acts = 19; acts <= 22; acts++) {
             EachIsHit x = new EachIsHit();
@@ -451,6 +532,7 @@ public final class FamiliesBoundsTest {
         }
     }
 
+    @Says("Acts that are REMEMBERED, 20 at most (of more the oldest is forgotten):")
     private static void promise11OldestIsForgottenOfEachKind() {
         EachIsHit x = new EachIsHit();
         x.tell(0, 5);
@@ -471,6 +553,7 @@ public final class FamiliesBoundsTest {
         due("none", x.undo(), NONE);
     }
 
+    @Says("The act that was REMEMBERED last is undone, and not REMEMBERED any more:")
     private static void promise11ActsKeepTheirOwnPlaces() {
         EachIsHit x = new EachIsHit();
         for (int i = 0; i < 24; i++) {
@@ -497,6 +580,7 @@ public final class FamiliesBoundsTest {
         }
     }
 
+    @Says("Acts that are REMEMBERED, 20 at most (of more the oldest is forgotten):")
     private static void promise11RoomIsUsedAgain() {
         EachIsHit x = new EachIsHit();
         for (int i = 0; i < 25; i++) {
@@ -517,6 +601,7 @@ public final class FamiliesBoundsTest {
         due("the price", x.priceOf(0), 7);
     }
 
+    @Says({"a SET is TAKEN that was TOLD,", "by tell() a SET that was TOLD, if that changed anything;"})
     private static void promise11ToldForTheFirstTimeIsGone() {
         EachIsHit x = filled(2);
         due("undo", x.undo(), 1);
@@ -525,6 +610,7 @@ public final class FamiliesBoundsTest {
         due("size", x.size(1), 0);
     }
 
+    @Says("a SET is TAKEN that was TOLD,")
     private static void promise11ToldAgainKeepsItsPlace() {
         EachIsHit x = filled(2);
         x.tell(1, 100);
@@ -533,6 +619,7 @@ public final class FamiliesBoundsTest {
         dueAll(x, 1, 100, 101);
     }
 
+    @Says({"or TOLD that was TAKEN (it may come last):", "by take() one that was TAKEN."})
     private static void promise11TakenAndGoneComesLast() {
         EachIsHit x = filled(3);
         x.take(1, 100);
@@ -543,6 +630,7 @@ public final class FamiliesBoundsTest {
         dueAll(x, 1, 101, 100);
     }
 
+    @Says("or TOLD that was TAKEN (it may come last):")
     private static void promise11TakenButHeldKeepsItsPlace() {
         EachIsHit x = filled(3);
         x.tell(1, 100);
@@ -552,6 +640,7 @@ public final class FamiliesBoundsTest {
         dueAll(x, 1, 100, 101, 102);
     }
 
+    @Says("or TOLD that was TAKEN (it may come last):")
     private static void promise11TakenFromAFullFamily() {
         EachIsHit x = filled(40);
         x.take(1, 105);
@@ -564,9 +653,18 @@ public final class FamiliesBoundsTest {
         due("tally", x.tally(1, 7), 0);
     }
 
+    @Says("by tell() a SET that was TOLD, if that changed anything;")
     private static void promise11At99() {
-        EachIsHit x = tallied(9, 99);
+        EachIsHit x = tallied(9, 79);
+        x.copy(1, 1);
+        for (int t = 80; t <= 99; t++) {
+            due("tell", x.tell(1, 9), t);
+        }
+        x.price(0, 2);
+        due("the oldest is forgotten", x.undo(), 19);
         due("it stays", x.tell(1, 9), 99);
+        due("which is not remembered", x.count(1), 19);
+        x = tallied(9, 99);
         due("undo of the last that changed", x.undo(), 19);
         due("tally", x.tally(1, 9), 98);
         x.tell(1, 9);
@@ -575,6 +673,7 @@ public final class FamiliesBoundsTest {
         due("tally", x.tally(1, 9), 99);
     }
 
+    @Says({"a PRICE is what it was ahead;", "by price() that a PRICE became another one;"})
     private static void promise11PriceIsWhatItWasAhead() {
         EachIsHit x = new EachIsHit();
         x.price(0, 99);
@@ -588,6 +687,7 @@ public final class FamiliesBoundsTest {
         due("price 0", x.priceOf(0), 1);
     }
 
+    @Says("The act that was REMEMBERED last is undone, and not REMEMBERED any more:")
     private static void promise11UndoIsNoActItself() {
         EachIsHit x = new EachIsHit();
         x.price(0, 5);
@@ -599,6 +699,7 @@ public final class FamiliesBoundsTest {
         due("price", x.priceOf(0), 1);
     }
 
+    @Says("it changes nothing, but where told.")
     private static void promise11RefusedActsAreNotRemembered() {
         EachIsHit x = filled(40);
         x.wipe(0);

@@ -94,10 +94,12 @@ public final class HitsBoundsTest {
 
     // ---- 12, 13: often, top
 
+    @Says("BAD.")
     private static void promise12FamilyIs0To3() {
         Still.bounds("family", 0, 3, (x, v) -> x.often(v, 3));
     }
 
+    @Says({"How many SETS of a FAMILY have a POINT.", "BAD."})
     private static void promise12PointIs0To11() {
         Still.bounds("point", 0, 11, (x, v) -> x.often(1, v));
         Still.is("point 0", x -> x.often(1, 0), 3);
@@ -105,6 +107,7 @@ public final class HitsBoundsTest {
         Still.is("point 4 of another one", x -> x.often(0, 4), 1);
     }
 
+    @Says("How many SETS of a FAMILY have a POINT.")
     private static void promise12From0To40() {
         Still.after(x -> { }, "of none", x -> x.often(0, 0), 0);
         EachIsHit x = new EachIsHit();
@@ -121,10 +124,12 @@ public final class HitsBoundsTest {
         due("tallies", x.often(1, 10), 1);
     }
 
+    @Says("BAD;")
     private static void promise13FamilyIs0To3() {
         Still.bounds("family", 0, 3, (x, v) -> x.top(v));
     }
 
+    @Says("NONE: it is in none.")
     private static void promise13NoneWhereItIsInNone() {
         Still.after(x -> { }, "an empty family", x -> x.top(0), NONE);
         Still.after(x -> x.tell(0, 0), "the empty set alone", x -> x.top(0), NONE);
@@ -134,6 +139,7 @@ public final class HitsBoundsTest {
         }, "the empty set and another one", x -> x.top(0), 11);
     }
 
+    @Says({"The POINT that is in most,", "of like ones the least."})
     private static void promise13OfLikeOnesTheLeast() {
         due("all points of one set", with(4095).top(0), 0);
         due("all points, one to each", withSingles().top(0), 0);
@@ -145,10 +151,12 @@ public final class HitsBoundsTest {
 
     // ---- 14, 15: isSimple, lean
 
+    @Says("BAD.")
     private static void promise14FamilyIs0To3() {
         Still.bounds("family", 0, 3, (x, v) -> x.isSimple(v));
     }
 
+    @Says({"1, 0.", "SIMPLE is a FAMILY, if it holds no SET that is a part of another one of it."})
     private static void promise14NoneOrOneIsSimple() {
         Still.after(x -> { }, "none", x -> x.isSimple(0), 1);
         Still.after(x -> x.tell(0, 0), "the empty set", x -> x.isSimple(0), 1);
@@ -156,6 +164,7 @@ public final class HitsBoundsTest {
         due("one set twice is no other one", with(5, 5).isSimple(0), 1);
     }
 
+    @Says({"1, 0.", "SIMPLE is a FAMILY, if it holds no SET that is a part of another one of it."})
     private static void promise14PartAheadOrBehind() {
         due("the part ahead", with(1, 3).isSimple(0), 0);
         due("the part behind", with(3, 1).isSimple(0), 0);
@@ -165,6 +174,7 @@ public final class HitsBoundsTest {
         due("a part of all points", with(4095, 2048).isSimple(0), 0);
     }
 
+    @Says("1, 0.")
     private static void promise14OfForty() {
         EachIsHit x = new EachIsHit();
         x.make(0, 0, 9, 2);
@@ -176,10 +186,12 @@ public final class HitsBoundsTest {
         due("the 40th is a part", x.isSimple(0), 0);
     }
 
+    @Says("BAD.")
     private static void promise15FamilyIs0To3() {
         Still.bounds("family", 0, 3, (x, v) -> x.lean(v));
     }
 
+    @Says("how many.")
     private static void promise15NoneGo() {
         due("of none", new EachIsHit().lean(0), 0);
         due("the empty set alone", with(0).lean(0), 0);
@@ -189,6 +201,7 @@ public final class HitsBoundsTest {
         due("tally", x.tally(0, 3), 2);
     }
 
+    @Says({"SETS that have another SET of the FAMILY as a part go", "how many."})
     private static void promise15AllGoButTheEmptyOne() {
         EachIsHit x = new EachIsHit();
         for (int i = 1; i < 40; i++) {
@@ -201,12 +214,14 @@ public final class HitsBoundsTest {
         due("tally", x.tally(0, 0), 2);
     }
 
+    @Says({"SETS that have another SET of the FAMILY as a part go", "how many."})
     private static void promise15OfAChainTheLeastStays() {
         EachIsHit x = with(4095, 2047, 1023, 511, 255, 127, 63, 31, 15, 7, 3, 1);
         due("eleven", x.lean(0), 11);
         dueAll(x, 0, 1);
     }
 
+    @Says("(the others keep TALLIES, order):")
     private static void promise15OthersKeepTalliesAndOrder() {
         EachIsHit x = with(48, 7, 3, 1024, 51, 1024, 48, 48);
         due("two", x.lean(0), 2);
@@ -217,6 +232,7 @@ public final class HitsBoundsTest {
         due("gone", x.tally(0, 7), 0);
     }
 
+    @Says("wipe(), copy(), lean(), into(), make(), unpacks(), back() forget them all,")
     private static void promise15ForgetsEvenIfNoneGo() {
         EachIsHit x = with(3);
         due("lean", x.lean(1), 0);
@@ -225,14 +241,17 @@ public final class HitsBoundsTest {
 
     // ---- 16, 17: test, counted
 
+    @Says("BAD.")
     private static void promise16FamilyIs0To3() {
         Still.bounds("family", 0, 3, (x, v) -> x.test(v, 0, 5));
     }
 
+    @Says("BAD.")
     private static void promise16TestIs0To5() {
         Still.bounds("test", 0, 5, (x, v) -> x.test(0, v, 5));
     }
 
+    @Says("BAD.")
     private static void promise16SetIs0To4095() {
         for (int test = 0; test < 6; test++) {
             int t = test;
@@ -246,6 +265,7 @@ public final class HitsBoundsTest {
         }
     }
 
+    @Says({"Whether a SET does it: 1, 0.", "(so each does, if it holds none;"})
     private static void promise16ByAnEmptyFamily() {
         EachIsHit x = new EachIsHit();
         dueTests("none", x, 0, 1, 1, 1, 0, 1, 0);
@@ -253,6 +273,7 @@ public final class HitsBoundsTest {
         dueTests("none", x, 4095, 1, 0, 1, 0, 1, 0);
     }
 
+    @Says({"Whether a SET does it: 1, 0.", "none does, if it holds the empty one)."})
     private static void promise16ByTheEmptySet() {
         EachIsHit x = with(0);
         dueTests("the empty set", x, 0, 0, 0, 0, 1, 0, 1);
@@ -260,6 +281,7 @@ public final class HitsBoundsTest {
         dueTests("the empty set", x, 4095, 0, 0, 0, 0, 0, 0);
     }
 
+    @Says("none does, if it holds the empty one).")
     private static void promise16ByTheEmptySetAndAnother() {
         EachIsHit x = with(3, 0);
         dueTests("two", x, 0, 0, 0, 0, 1, 0, 1);
@@ -268,6 +290,7 @@ public final class HitsBoundsTest {
         dueTests("two", x, 7, 0, 0, 0, 0, 0, 0);
     }
 
+    @Says("Whether a SET does it: 1, 0.")
     private static void promise16ByAllPoints() {
         EachIsHit x = with(4095);
         dueTests("all points", x, 0, 0, 0, 1, 1, 0, 0);
@@ -278,6 +301,7 @@ public final class HitsBoundsTest {
         dueTests("all points", x, 4095, 1, 0, 0, 1, 0, 1);
     }
 
+    @Says("Whether a SET does it: 1, 0.")
     private static void promise16ByLowAndHighPoints() {
         // Points 5 and 6 alone, and both: where one half of a number ends and the other one begins.
         EachIsHit x = with(32, 64);
@@ -288,18 +312,22 @@ public final class HitsBoundsTest {
         dueTests("5, 6", x, 2064, 0, 0, 1, 0, 0, 0);
     }
 
+    @Says("BAD.")
     private static void promise17FamilyIs0To3() {
         Still.bounds("family", 0, 3, (x, v) -> x.counted(v, 0, 0, 5));
     }
 
+    @Says("BAD.")
     private static void promise17TestIs0To5() {
         Still.bounds("test", 0, 5, (x, v) -> x.counted(0, v, 0, 5));
     }
 
+    @Says("BAD.")
     private static void promise17NotIs0To1() {
         Still.bounds("not", 0, 1, (x, v) -> x.counted(0, 0, v, 5));
     }
 
+    @Says({"How many SETS of n (0 .. 12) POINTS do a TEST (not 0), don't (1).", "BAD."})
     private static void promise17PointsAre0To12() {
         Still.bounds("n", 0, 12, (x, v) -> x.counted(0, 0, 0, v));
         EachIsHit x = with(4095);
@@ -318,6 +346,7 @@ public final class HitsBoundsTest {
         }
     }
 
+    @Says("How many SETS of n (0 .. 12) POINTS do a TEST (not 0), don't (1).")
     private static void promise17ByAnEmptyFamilyOrTheEmptySet() {
         EachIsHit none = new EachIsHit();
         EachIsHit empty = with(0);
@@ -336,10 +365,12 @@ public final class HitsBoundsTest {
 
     // ---- 18, 19, 20: dual, into, verdict
 
+    @Says("BAD: f;")
     private static void promise18FamilyIs0To3() {
         Still.bounds("family", 0, 3, (x, v) -> x.dual(v, -1));
     }
 
+    @Says({"k -1: how many there are.", "PLACE: another k."})
     private static void promise18PlaceAtAnotherK() {
         Still.is("how many", x -> x.dual(0, -1), 4);
         Still.is("-2", x -> x.dual(0, -2), PLACE);
@@ -352,12 +383,14 @@ public final class HitsBoundsTest {
         Still.is("beyond all sets", x -> x.dual(0, 4096), PLACE);
     }
 
+    @Says("SET k of DUAL;")
     private static void promise18OfNoneAndOfTheEmptySet() {
         dueDual("of none", new EachIsHit(), 0);
         dueDual("of the empty set", with(0));
         dueDual("of the empty set and others", with(3, 0, 4095));
     }
 
+    @Says({"SET k of DUAL;", "k -1: how many there are."})
     private static void promise18OfAllPoints() {
         dueDual("of one set", with(4095), singles());
         dueDual("of each alone", withSingles(), 4095);
@@ -365,16 +398,19 @@ public final class HitsBoundsTest {
         dueDual("of the first alone", with(1), 1);
     }
 
+    @Says({"SET k of DUAL;", "DUAL of a FAMILY: all LEAST SETS, in order as numbers."})
     private static void promise18InOrderAsNumbers() {
         dueDual("high ones told first", with(3072, 3), 1025, 1026, 2049, 2050);
         dueDual("a small set behind many", with(33, 34, 36), 7, 32);
     }
 
+    @Says("of several the one that stands first with it;")
     private static void promise18BadAheadOfPlace() {
         Still.bad("no family, no place", x -> x.dual(4, -2));
         Still.bad("no family, no place", x -> x.dual(-1, 4096));
     }
 
+    @Says("BAD;")
     private static void promise19FamiliesAre0To3() {
         Still.bounds("from", 0, 3, (x, v) -> x.into(v, 1));
         Still.bounds("to", 0, 3, (x, v) -> x.into(1, v));
@@ -387,6 +423,7 @@ public final class HitsBoundsTest {
     // The same with one point more that all share.
     private static final int[] DUAL_41 = {0x803, 0x83C, 0xFC0};
 
+    @Says({"FULL: they are more than 40.", "BECOMES DUAL of f, in order, each with TALLY 1: how many."})
     private static void promise19FullAbove40() {
         EachIsHit x = with(DUAL_39);
         due("39", x.into(0, 1), 39);
@@ -403,6 +440,7 @@ public final class HitsBoundsTest {
         due("size", x.size(1), 0);
     }
 
+    @Says({"FULL: they are more than 40.", "where they are not refused"})
     private static void promise19FullChangesNothing() {
         Still.afterMore(x -> {
             x.wipe(0);
@@ -417,6 +455,7 @@ public final class HitsBoundsTest {
         }, "41 into itself", x -> x.into(0, 0), FULL);
     }
 
+    @Says("FAMILY g (it may be f)")
     private static void promise19ItMayBeItself() {
         EachIsHit x = with(DUAL_40);
         due("40", x.into(0, 0), 40);
@@ -425,6 +464,7 @@ public final class HitsBoundsTest {
         dueAll(x, 0, 0x003, 0x03C, 0x7C0);
     }
 
+    @Says("BECOMES DUAL of f, in order, each with TALLY 1: how many.")
     private static void promise19OfNoneAndOfTheEmptySet() {
         EachIsHit x = new EachIsHit();
         x.tell(1, 5);
@@ -435,6 +475,7 @@ public final class HitsBoundsTest {
         due("size", x.size(1), 0);
     }
 
+    @Says("BECOMES DUAL of f, in order, each with TALLY 1: how many.")
     private static void promise19EachWithTally1() {
         EachIsHit x = with(1);
         x.tell(0, 1);
@@ -445,12 +486,14 @@ public final class HitsBoundsTest {
         due("the other one", x.tally(0, 1), 2);
     }
 
+    @Says("wipe(), copy(), lean(), into(), make(), unpacks(), back() forget them all,")
     private static void promise19ForgetsAllActs() {
         EachIsHit x = with(1);
         due("into", x.into(0, 0), 1);
         due("undo", x.undo(), NONE);
     }
 
+    @Says("of several the one that stands first with it;")
     private static void promise19BadAheadOfFull() {
         Still.after(x -> {
             for (int set : DUAL_41) {
@@ -459,12 +502,14 @@ public final class HitsBoundsTest {
         }, "no family to hold 41", x -> x.into(0, 4), BAD);
     }
 
+    @Says("BAD.")
     private static void promise20FamiliesAre0To3() {
         Still.bounds("by", 0, 3, (x, v) -> x.verdict(v, 1, 0));
         Still.bounds("on", 0, 3, (x, v) -> x.verdict(1, v, 0));
         Still.bounds("by, witness", 0, 3, (x, v) -> x.verdict(v, 1, 1));
     }
 
+    @Says("BAD.")
     private static void promise20WhatIs0To1() {
         Still.bounds("what", 0, 1, (x, v) -> x.verdict(0, 1, v));
     }
@@ -479,6 +524,7 @@ public final class HitsBoundsTest {
         due("witness", x.verdict(0, 1, 1), witness);
     }
 
+    @Says({"VERDICT on g, by f (what 0),", "WITNESS (1; NONE for 0)."})
     private static void promise20VerdictsInTheirOrder() {
         int[] f = {3};
         dueVerdict(f, new int[] {1, 2}, 0, NONE);
@@ -494,6 +540,7 @@ public final class HitsBoundsTest {
         dueVerdict(f, new int[] {1, 2, 0}, 1, 0);
     }
 
+    @Says({"VERDICT on g, by f (what 0),", "WITNESS (1; NONE for 0)."})
     private static void promise20ByNoneAndByTheEmptySet() {
         dueVerdict(new int[] {}, new int[] {}, 3, 0);
         dueVerdict(new int[] {}, new int[] {0}, 0, NONE);
@@ -504,6 +551,7 @@ public final class HitsBoundsTest {
         dueVerdict(new int[] {0, 1}, new int[] {4095}, 1, 4095);
     }
 
+    @Says("WITNESS (1; NONE for 0).")
     private static void promise20WitnessOfAllPoints() {
         EachIsHit x = withSingles();
         due("it isn't held", x.verdict(0, 1, 0), 3);
@@ -515,6 +563,7 @@ public final class HitsBoundsTest {
         due("which", x.verdict(0, 1, 1), 4094);
     }
 
+    @Says("VERDICT on g, by f (what 0),")
     private static void promise20OnItself() {
         int[][] families = {{}, {0}, {1}, {3}, {3, 5, 6}, {3, 12}};
         int[] verdicts = {3, 1, 0, 2, 0, 1};
@@ -528,10 +577,12 @@ public final class HitsBoundsTest {
 
     // ---- 21, 22: tree, node
 
+    @Says("BAD.")
     private static void promise21FamilyIs0To3() {
         Still.bounds("family", 0, 3, (x, v) -> x.tree(v, 0));
     }
 
+    @Says("BAD.")
     private static void promise21WhatIs0To2() {
         Still.bounds("what", 0, 2, (x, v) -> x.tree(0, v));
     }
@@ -549,22 +600,32 @@ public final class HitsBoundsTest {
         due("behind the last", x.node(0, nodes.length, 0), PLACE);
     }
 
+    @Says({"A NODE that has no SETS,", "2 how many LEAVES have no SETS."})
     private static void promise21OfNone() {
         dueTree(new EachIsHit(), 0, 1, new int[] {NONE, 0, 0, 0});
     }
 
+    @Says({"or the empty one, is a LEAF;", "2 how many LEAVES have no SETS."})
     private static void promise21OfTheEmptySet() {
         dueTree(with(0), 0, 0, new int[] {NONE, 1, 0, 0});
         dueTree(with(5, 0, 4095), 0, 0, new int[] {NONE, 1, 0, 0});
     }
 
+    @Says({"THE TREE: what 0 how many NODES,", "1 the greatest depth,", "2 how many LEAVES have no SETS."})
     private static void promise21OfOnePoint() {
         dueTree(with(2048), 1, 1, new int[] {11, 1, 0, 0}, new int[] {NONE, 0, 1, 2048}, new int[] {NONE, 1, 1, 0});
     }
 
+    @Says("else it BRANCHES at the POINT that is in most of its SETS, of like ones the least:")
     private static void promise21OfLikePointsTheLeast() {
         dueTree(with(3), 2, 2, new int[] {0, 1, 0, 0}, new int[] {NONE, 0, 1, 1}, new int[] {1, 1, 1, 0},
             new int[] {NONE, 0, 2, 2}, new int[] {NONE, 1, 2, 0});
+    }
+
+    @Says("else it BRANCHES at the POINT that is in most of its SETS, of like ones the least:")
+    private static void promise21AtThePointThatIsInMost() {
+        dueTree(with(2049, 2050), 3, 2, new int[] {11, 2, 0, 0}, new int[] {NONE, 0, 1, 2048}, new int[] {0, 2, 1, 0},
+            new int[] {1, 1, 2, 1}, new int[] {NONE, 0, 3, 3}, new int[] {NONE, 1, 3, 1}, new int[] {NONE, 1, 2, 0});
     }
 
     private static final int[][] THREE = {
@@ -572,16 +633,19 @@ public final class HitsBoundsTest {
         {2, 1, 2, 2}, {NONE, 0, 3, 6}, {NONE, 1, 3, 2}, {NONE, 1, 2, 0},
     };
 
+    @Says("then the NODE of all of its SETS, that POINT taken from each, without those that have another one of them as a part then")
     private static void promise21SetsWithAnotherAsPartGo() {
         // In node 6 the points 0, 1 have become point 1 alone, so that points 1, 3 go.
         dueTree(with(3, 5, 10), 3, 3, THREE);
     }
 
+    @Says("The first one: SETS of the FAMILY without those that have another one of it as a part, depth 0, none had.")
     private static void promise21FirstNodeIsWithoutWholes() {
         dueTree(with(4095, 3, 7, 5, 10, 14), 3, 3, THREE);
         dueTree(with(10, 5, 3, 3, 3), 3, 3, THREE);
     }
 
+    @Says("behind it comes the NODE of those of its SETS that haven't that POINT, which is had then, too, and all that comes behind that one;")
     private static void promise21SetsWithoutThePointStayInBoth() {
         // Points 3, 4 come first, have nothing in common with the others, and so stay in nodes 1 and 6.
         dueTree(with(24, 3, 5), 5, 4, new int[] {0, 3, 0, 0}, new int[] {3, 1, 1, 1}, new int[] {NONE, 0, 2, 9},
@@ -590,6 +654,7 @@ public final class HitsBoundsTest {
             new int[] {NONE, 0, 5, 22}, new int[] {NONE, 1, 5, 6}, new int[] {NONE, 1, 3, 2}, new int[] {NONE, 1, 2, 0});
     }
 
+    @Says({"1 the greatest depth,", "2 how many LEAVES have no SETS."})
     private static void promise21OfAnotherOneBehindADeepOne() {
         EachIsHit x = with(4095);
         x.tell(1, 1);
@@ -601,6 +666,12 @@ public final class HitsBoundsTest {
         due("depth of none", x.tree(2, 1), 0);
     }
 
+    @Says({
+        "THE TREE: what 0 how many NODES,",
+        "1 the greatest depth,",
+        "Depth is 1 more in both.",
+        "with what is had as it is, and all behind that.",
+    })
     private static void promise21TwelveDeep() {
         int[][] nodes = new int[25][];
         for (int p = 0; p < 12; p++) {
@@ -611,6 +682,12 @@ public final class HitsBoundsTest {
         dueTree(with(4095), 12, 12, nodes);
     }
 
+    @Says({
+        "THE TREE: what 0 how many NODES,",
+        "1 the greatest depth,",
+        "Depth is 1 more in both.",
+        "behind it comes the NODE of those of its SETS that haven't that POINT, which is had then, too, and all that comes behind that one;",
+    })
     private static void promise21TwelveDeepOfOnePointEach() {
         int[][] nodes = new int[25][];
         for (int p = 0; p < 12; p++) {
@@ -621,6 +698,7 @@ public final class HitsBoundsTest {
         dueTree(withSingles(), 12, 1, nodes);
     }
 
+    @Says("2 how many LEAVES have no SETS.")
     private static void promise21OfForty() {
         EachIsHit x = heavy();
         // Points 0 .. 3 must be had, and all but one of 4 .. 8.
@@ -629,14 +707,17 @@ public final class HitsBoundsTest {
         due("sets of the first node", x.node(1, 0, 1), 4 + 10);
     }
 
+    @Says("BAD: f, what;")
     private static void promise22FamilyIs0To3() {
         Still.bounds("family", 0, 3, (x, v) -> x.node(v, 0, 0));
     }
 
+    @Says("BAD: f, what;")
     private static void promise22WhatIs0To3() {
         Still.bounds("what", 0, 3, (x, v) -> x.node(0, 0, v));
     }
 
+    @Says("PLACE: there is none such.")
     private static void promise22PlaceWhereThereIsNone() {
         for (int what = 0; what < 4; what++) {
             int w = what;
@@ -651,6 +732,7 @@ public final class HitsBoundsTest {
         }
     }
 
+    @Says("of several the one that stands first with it;")
     private static void promise22BadAheadOfPlace() {
         Still.bad("no family, no node", x -> x.node(4, -1, 0));
         Still.bad("no such what, no node", x -> x.node(0, -1, 4));
@@ -659,10 +741,12 @@ public final class HitsBoundsTest {
 
     // ---- 23: keys
 
+    @Says("BAD: f;")
     private static void promise23FamilyIs0To3() {
         Still.bounds("family", 0, 3, (x, v) -> x.keys(v, -1));
     }
 
+    @Says("(the empty SET is a KEY, if it holds one or none).")
     private static void promise23EmptyKeyOfOneOrNone() {
         dueKeys("none", new EachIsHit(), 0);
         dueKeys("one", with(9), 0);
@@ -671,11 +755,13 @@ public final class HitsBoundsTest {
         dueKeys("two", with(9, 8), 1);
     }
 
+    @Says("KEY k, in order as numbers;")
     private static void promise23OfTwo() {
         dueKeys("the empty set and all points", with(0, 4095), singles());
         dueKeys("apart by the last point", with(5, 2053), 2048);
     }
 
+    @Says({"KEY k, in order as numbers;", "k -1: how many there are."})
     private static void promise23AllPoints() {
         int[] allButOne = new int[12];
         for (int p = 0; p < 12; p++) {
@@ -687,6 +773,7 @@ public final class HitsBoundsTest {
         dueKeys("with the empty set", x, 4095);
     }
 
+    @Says("KEY k, in order as numbers;")
     private static void promise23OfForty() {
         EachIsHit x = new EachIsHit();
         for (int i = 0; i < 40; i++) {
@@ -699,6 +786,7 @@ public final class HitsBoundsTest {
         dueKeys("0 .. 31", x, 31);
     }
 
+    @Says({"k -1: how many there are.", "PLACE: another k."})
     private static void promise23PlaceAtAnotherK() {
         Still.is("how many", x -> x.keys(3, -1), 6);
         Still.is("-2", x -> x.keys(3, -2), PLACE);
@@ -707,6 +795,7 @@ public final class HitsBoundsTest {
         Still.is("behind", x -> x.keys(3, 6), PLACE);
     }
 
+    @Says("of several the one that stands first with it;")
     private static void promise23BadAheadOfPlace() {
         Still.bad("no family, no place", x -> x.keys(4, -2));
         Still.bad("no family, no place", x -> x.keys(-1, 4096));
@@ -714,10 +803,12 @@ public final class HitsBoundsTest {
 
     // ---- 24, 25: support, border
 
+    @Says("BAD.")
     private static void promise24FamilyIs0To3() {
         Still.bounds("family", 0, 3, (x, v) -> x.support(v, 3));
     }
 
+    @Says("BAD.")
     private static void promise24SetIs0To4095() {
         Still.bounds("set", 0, 4095, (x, v) -> x.support(1, v));
         Still.is("the empty set", x -> x.support(0, 0), 5);
@@ -725,6 +816,7 @@ public final class HitsBoundsTest {
         Still.is("all points", x -> x.support(0, 4095), 0);
     }
 
+    @Says({"SUPPORT.", "SUPPORT of a SET: TALLIES of all SETS of a FAMILY of which it is a part, together."})
     private static void promise24From0To3960() {
         Still.after(x -> { }, "of none", x -> x.support(0, 0), 0);
         EachIsHit x = heavy();
@@ -735,19 +827,23 @@ public final class HitsBoundsTest {
         due("none of them", x.support(1, 7), 0);
     }
 
+    @Says("BAD: f, t, side;")
     private static void promise25FamilyIs0To3() {
         Still.bounds("family", 0, 3, (x, v) -> x.border(v, 1, 0, -1));
     }
 
+    @Says({"at t (0 .. 4000);", "BAD: f, t, side;"})
     private static void promise25TIs0To4000() {
         Still.bounds("t, up", 0, 4000, (x, v) -> x.border(0, v, 0, -1));
         Still.bounds("t, down", 0, 4000, (x, v) -> x.border(0, v, 1, -1));
     }
 
+    @Says("BAD: f, t, side;")
     private static void promise25SideIs0To1() {
         Still.bounds("side", 0, 1, (x, v) -> x.border(0, 1, v, -1));
     }
 
+    @Says({"SET k of UP (side 0),", "DOWN (1)", "at t (0 .. 4000);"})
     private static void promise25AllAreCommonAt0() {
         EachIsHit x = new EachIsHit();
         dueUp("none", x, 0, 0, 4095);
@@ -757,6 +853,7 @@ public final class HitsBoundsTest {
         dueDown("forty", x, 1, 0);
     }
 
+    @Says({"SET k of UP (side 0),", "DOWN (1)", "at t (0 .. 4000);"})
     private static void promise25NoneAreCommonAboveAll() {
         EachIsHit x = new EachIsHit();
         dueUp("none", x, 0, 1);
@@ -770,12 +867,14 @@ public final class HitsBoundsTest {
         dueDown("forty", x, 1, 4000, 0);
     }
 
+    @Says("It is COMMON at t, if that is t or more.")
     private static void promise25OnlyTheEmptySetIsCommonAtAll() {
         EachIsHit x = heavy();
         dueUp("forty", x, 1, 3960, 0);
         dueDown("forty", x, 1, 3960, singles());
     }
 
+    @Says({"It is COMMON at t, if that is t or more.", "k -1: how many there are."})
     private static void promise25AtJustAsOften() {
         EachIsHit x = heavy();
         dueUp("one less", x, 1, 890, 1, 2, 4, 8);
@@ -785,6 +884,7 @@ public final class HitsBoundsTest {
         dueDown("one more", x, 1, 892, singles());
     }
 
+    @Says({"SET k of UP (side 0),", "DOWN (1)", "k -1: how many there are.", "PLACE: another k."})
     private static void promise25OfTheEmptySetAndOfAllPoints() {
         EachIsHit x = with(0);
         dueUp("the empty set", x, 0, 1, 0);
@@ -798,6 +898,7 @@ public final class HitsBoundsTest {
         dueDown("all points", x, 0, 2, 0);
     }
 
+    @Says("of several the one that stands first with it;")
     private static void promise25BadAheadOfPlace() {
         Still.bad("family", x -> x.border(4, 0, 0, -2));
         Still.bad("t below", x -> x.border(0, -1, 0, -2));
@@ -805,6 +906,7 @@ public final class HitsBoundsTest {
         Still.bad("side", x -> x.border(0, 0, 2, -2));
     }
 
+    @Says("PLACE: another k.")
     private static void promise25PlaceChangesNothing() {
         Still.is("up at -2", x -> x.border(0, 1, 0, -2), PLACE);
         Still.is("up behind the last", x -> x.border(0, 0, 0, 1), PLACE);
@@ -813,14 +915,17 @@ public final class HitsBoundsTest {
 
     // ---- 26: make
 
+    @Says("BAD;")
     private static void promise26FamilyIs0To3() {
         Still.bounds("family", 0, 3, (x, v) -> x.make(v, 0, 2, 1));
     }
 
+    @Says("BAD;")
     private static void promise26HowIs0To4() {
         Still.bounds("how", 0, 4, (x, v) -> x.make(0, v, 2, 1));
     }
 
+    @Says({"BAD;", "n is 0 .. 12, where not told."})
     private static void promise26NIs0To12Or6() {
         Still.bounds("n, how 0", 0, 12, (x, v) -> x.make(0, 0, v, 0));
         Still.bounds("n, how 1", 0, 6, (x, v) -> x.make(0, 1, v, 0));
@@ -829,6 +934,7 @@ public final class HitsBoundsTest {
         Still.bounds("n, how 4", 0, 12, (x, v) -> x.make(0, 4, v, 0));
     }
 
+    @Says("BAD;")
     private static void promise26MIs0Or1To12() {
         Still.bounds("m, how 0", 0, 12, (x, v) -> x.make(0, 0, 3, v));
         Still.bounds("m, how 2", 1, 12, (x, v) -> x.make(0, 2, 3, v));
@@ -837,6 +943,10 @@ public final class HitsBoundsTest {
         Still.bad("m 0, n 0, how 3", x -> x.make(0, 3, 0, 0));
     }
 
+    @Says({
+        "1 for i from 0 to n - 1 POINTS 2 times i, and 1 more (n 0 .. 6; m doesn't matter);",
+        "4 for i from 0 to n - 1 all POINTS p of 0 .. 11 for which p modulo n is i (m doesn't matter):",
+    })
     private static void promise26MDoesntMatter() {
         for (int m : new int[] {Integer.MIN_VALUE, -1, 0, 13, Integer.MAX_VALUE}) {
             EachIsHit x = new EachIsHit();
@@ -854,6 +964,7 @@ public final class HitsBoundsTest {
         dueAll(x, 0, sets);
     }
 
+    @Says({"how 0 all SETS of m of the POINTS below n (m 0 .. 12), in order as numbers;", "how many SETS it holds."})
     private static void promise26How0AtItsBounds() {
         dueMade(0, 0, 0, 0);
         dueMade(0, 0, 1);
@@ -868,6 +979,7 @@ public final class HitsBoundsTest {
         dueMade(0, 11, 12);
     }
 
+    @Says("1 for i from 0 to n - 1 POINTS 2 times i, and 1 more (n 0 .. 6; m doesn't matter);")
     private static void promise26How1AtItsBounds() {
         dueMade(1, 0, 0);
         dueMade(1, 1, 0, 3);
@@ -875,6 +987,7 @@ public final class HitsBoundsTest {
         dueMade(1, 6, 0, 3, 12, 48, 192, 768, 3072);
     }
 
+    @Says("2 for i from 0 to n - m POINTS i .. i + m - 1 (m 1 .. 12);")
     private static void promise26How2AtItsBounds() {
         dueMade(2, 0, 1);
         dueMade(2, 1, 1, 1);
@@ -886,6 +999,7 @@ public final class HitsBoundsTest {
         dueMade(2, 0, 12);
     }
 
+    @Says({"3 for i from 0 to n - 1 POINTS i .. i + m - 1, each modulo n (m 1 .. 12);", "how many SETS it holds."})
     private static void promise26How3AtItsBounds() {
         dueMade(3, 0, 1);
         dueMade(3, 0, 12);
@@ -899,6 +1013,7 @@ public final class HitsBoundsTest {
         dueMade(3, 11, 10, 1023, 2046, 2045, 2043, 2039, 2031, 2015, 1983, 1919, 1791, 1535);
     }
 
+    @Says("A FAMILY BECOMES what one is TOLD by a rule, one SET behind the other:")
     private static void promise26LikeSetsRaiseTheTally() {
         EachIsHit x = with(7);
         due("how 3", x.make(0, 3, 12, 12), 1);
@@ -911,6 +1026,7 @@ public final class HitsBoundsTest {
         due("tally", x.tally(0, 7), 3);
     }
 
+    @Says("4 for i from 0 to n - 1 all POINTS p of 0 .. 11 for which p modulo n is i (m doesn't matter):")
     private static void promise26How4AtItsBounds() {
         dueMade(4, 0, 0);
         dueMade(4, 1, 0, 4095);
@@ -919,6 +1035,7 @@ public final class HitsBoundsTest {
         dueMade(4, 12, 0, singles());
     }
 
+    @Says("FULL: it would hold more than 40.")
     private static void promise26FullAbove40() {
         due("36", new EachIsHit().make(0, 0, 9, 2), 36);
         due("36", new EachIsHit().make(0, 0, 9, 7), 36);
@@ -930,6 +1047,7 @@ public final class HitsBoundsTest {
         Still.after(x -> { }, "66", x -> x.make(0, 0, 12, 2), FULL);
     }
 
+    @Says("A FAMILY BECOMES what one is TOLD by a rule, one SET behind the other:")
     private static void promise26OntoAFullFamily() {
         EachIsHit x = Still.busyOne();
         due("what it held doesn't count", x.make(2, 0, 9, 7), 36);
@@ -937,18 +1055,21 @@ public final class HitsBoundsTest {
         due("gone", x.tally(2, 1), 0);
     }
 
+    @Says("A FAMILY BECOMES what one is TOLD by a rule, one SET behind the other:")
     private static void promise26TalliesAre1() {
         EachIsHit x = with(3, 3, 3);
         due("make", x.make(0, 1, 1, 0), 1);
         due("tally", x.tally(0, 3), 1);
     }
 
+    @Says("wipe(), copy(), lean(), into(), make(), unpacks(), back() forget them all,")
     private static void promise26ForgetsAllActs() {
         EachIsHit x = with(3);
         due("make of none", x.make(1, 4, 0, 0), 0);
         due("undo", x.undo(), NONE);
     }
 
+    @Says("of several the one that stands first with it;")
     private static void promise26BadAheadOfFull() {
         Still.bad("no family", x -> x.make(4, 0, 12, 6));
         Still.bad("n above", x -> x.make(0, 0, 13, 2));

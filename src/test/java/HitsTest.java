@@ -241,10 +241,10 @@ public final class HitsTest {
         due("21 the empty set", x.tree(1, 2), 0);
         due("22 the empty set", x.node(1, 0, 0), NONE);
         due("22 the empty set", x.node(1, 0, 1), 1);
-        // 5 and 6 without 0 and 1 in turn: in the end both have become the same, and one stays.
+        // 5 and 6 without the point that both have: neither becomes a part of the other one.
         x.tell(2, 5);
         x.tell(2, 6);
-        due("22 of like ones one stays", x.node(2, 2, 1), 2);
+        due("22 both stay", x.node(2, 2, 1), 2);
         x.make(3, 0, 12, 1);
         due("21 twelve deep", x.tree(3, 0), 25);
         due("21 twelve deep", x.tree(3, 1), 12);

@@ -19,10 +19,12 @@ public final class RulesBoundsTest {
 
     // ---- 27: rule
 
+    @Says("BAD: how;")
     private static void promise27HowIs0To8() {
         Still.bounds("how", 0, 8, (x, v) -> x.rule(v, 0, 0, 0));
     }
 
+    @Says({"a, b: no such RULE, where it is asked of it;", "a, b are RULES there are already."})
     private static void promise27PartsAreRulesThereAre() {
         for (int how : new int[] {0, 1, 2, 3, 4, 5, 8}) {
             for (int a : new int[] {-1, LEAST, GREATEST, 12}) {
@@ -44,6 +46,7 @@ public final class RulesBoundsTest {
         }
     }
 
+    @Says("a, b: no such RULE, where it is asked of it;")
     private static void promise27PartsThatCameSinceTheImageAreNone() {
         EachIsHit x = new EachIsHit();
         x.image();
@@ -54,6 +57,7 @@ public final class RulesBoundsTest {
         due("count", x.count(0), 4);
     }
 
+    @Says("c: how 2 -9 .. 9, how 3, 5 a POINT, how 4 -11 .. 11, how 7 a FAMILY;")
     private static void promise27CIsWithinItsHow() {
         Still.bounds("c, how 2", -9, 9, (x, v) -> x.rule(2, 0, 0, v));
         Still.bounds("c, how 3", 0, 11, (x, v) -> x.rule(3, 0, 0, v));
@@ -62,6 +66,7 @@ public final class RulesBoundsTest {
         Still.bounds("c, how 7", 0, 3, (x, v) -> x.rule(7, 0, 0, v));
     }
 
+    @Says("(What isn't named with how doesn't matter.)")
     private static void promise27WhatIsntNamedDoesntMatter() {
         for (int v : ANY) {
             EachIsHit x = new EachIsHit();
@@ -81,6 +86,7 @@ public final class RulesBoundsTest {
         }
     }
 
+    @Says("One more RULE: its number.")
     private static void promise27NumbersOneBehindTheOther() {
         EachIsHit x = new EachIsHit();
         for (int r = 4; r < 12; r++) {
@@ -90,6 +96,7 @@ public final class RulesBoundsTest {
         due("count", x.count(0), 12);
     }
 
+    @Says({"FULL.", "RULES (12 at most) tell what a SET is worth."})
     private static void promise27FullAt12() {
         EachIsHit x = new EachIsHit();
         fillRules(x);
@@ -101,6 +108,7 @@ public final class RulesBoundsTest {
         }
     }
 
+    @Says("of several the one that stands first with it;")
     private static void promise27BadAheadOfFull() {
         int[][] bad = {
             {-1, 0, 0, 0}, {9, 0, 0, 0}, {0, 12, 0, 0}, {0, 0, 12, 0}, {1, -1, 0, 0}, {1, 0, -1, 0}, {2, 0, 0, 10},
@@ -112,6 +120,7 @@ public final class RulesBoundsTest {
         }
     }
 
+    @Says("FULL.")
     private static void promise27RoomAgainWhenItIsBack() {
         EachIsHit x = new EachIsHit();
         x.image();
@@ -122,6 +131,7 @@ public final class RulesBoundsTest {
         due("worth", x.worth(4, 7), 9);
     }
 
+    @Says("One more RULE: its number.")
     private static void promise27IsNoActAndForgetsNone() {
         EachIsHit x = new EachIsHit();
         x.price(0, 5);
@@ -133,6 +143,7 @@ public final class RulesBoundsTest {
 
     // ---- 28: worth
 
+    @Says("BAD.")
     private static void promise28RuleIsOneThereIs() {
         Still.after(x -> { }, "-1", x -> x.worth(-1, 0), BAD);
         Still.after(x -> { }, "4 of 4", x -> x.worth(4, 0), BAD);
@@ -145,6 +156,7 @@ public final class RulesBoundsTest {
         Still.after(RulesBoundsTest::fillRules, "12 of 12", x -> x.worth(12, 5), BAD);
     }
 
+    @Says("BAD.")
     private static void promise28SetIs0To4095() {
         for (int rule = 0; rule < 4; rule++) {
             int r = rule;
@@ -152,6 +164,13 @@ public final class RulesBoundsTest {
         }
     }
 
+    @Says({
+        "What a RULE tells of a SET.",
+        "0: how many POINTS it has.",
+        "1: their PRICES (as they are when it is asked), together.",
+        "2: the greatest PRICE of one of them (0 of none).",
+        "3: its number.",
+    })
     private static void promise28FirstRulesOfNoneAndAllPoints() {
         EachIsHit x = new EachIsHit();
         for (int p = 0; p < 12; p++) {
@@ -172,6 +191,7 @@ public final class RulesBoundsTest {
         due("the dearest free point", x.worth(2, 4095), 0);
     }
 
+    @Says("2: the greatest PRICE of one of them (0 of none).")
     private static void promise28GreatestPriceOfEachPoint() {
         for (int dear = 0; dear < 12; dear++) {
             EachIsHit x = new EachIsHit();
@@ -183,6 +203,7 @@ public final class RulesBoundsTest {
         }
     }
 
+    @Says("1 the greater of what a tells, b tells;")
     private static void promise28GreaterOfBoth() {
         EachIsHit x = new EachIsHit();
         x.rule(2, 3, 0, -1);
@@ -195,6 +216,7 @@ public final class RulesBoundsTest {
         due("like ones", x.worth(5, 0), 0);
     }
 
+    @Says("2 c times what a tells;")
     private static void promise28TimesC() {
         EachIsHit x = new EachIsHit();
         int[] times = {-9, -1, 0, 1, 9};
@@ -204,6 +226,7 @@ public final class RulesBoundsTest {
         }
     }
 
+    @Says("3 what a tells of it without POINT c;")
     private static void promise28WithoutPointC() {
         EachIsHit x = new EachIsHit();
         x.rule(3, 3, 0, 0);
@@ -216,6 +239,7 @@ public final class RulesBoundsTest {
         due("of none", x.worth(4, 0), 0);
     }
 
+    @Says("4 what a tells of it shifted: each POINT p becomes p + c, those that aren't 0 .. 11 then are left out;")
     private static void promise28ShiftedByC() {
         EachIsHit x = new EachIsHit();
         int[] by = {-11, -1, 0, 1, 11};
@@ -231,6 +255,7 @@ public final class RulesBoundsTest {
         }
     }
 
+    @Says("5 what a tells, if it has POINT c, else what b tells;")
     private static void promise28IfItHasPointC() {
         EachIsHit x = new EachIsHit();
         x.rule(5, 3, 0, 0);
@@ -241,6 +266,10 @@ public final class RulesBoundsTest {
         due("it hasn't 11", x.worth(5, 2047), 11);
     }
 
+    @Says({
+        "6 PRICES as they are when the RULE comes, of its POINTS together;",
+        "1: their PRICES (as they are when it is asked), together.",
+    })
     private static void promise28PricesAsTheyWere() {
         EachIsHit x = new EachIsHit();
         x.rule(6, 0, 0, 0);
@@ -262,6 +291,7 @@ public final class RulesBoundsTest {
         due("then, back", x.worth(5, 4095), 99 + 10);
     }
 
+    @Says("7 how many SETS of FAMILY c (as it is when it is asked) it has a POINT of;")
     private static void promise28FamilyAsItIs() {
         EachIsHit x = new EachIsHit();
         for (int c = 0; c < 4; c++) {
@@ -282,6 +312,7 @@ public final class RulesBoundsTest {
         due("wiped", x.worth(4, 4095), 0);
     }
 
+    @Says("8 what a tells of all POINTS that it hasn't.")
     private static void promise28OfThePointsThatItHasnt() {
         EachIsHit x = new EachIsHit();
         x.rule(8, 3, 0, 0);
@@ -292,6 +323,7 @@ public final class RulesBoundsTest {
         due("of those that it hasn't", x.worth(5, 2048), 2048);
     }
 
+    @Says("Ints wrap.")
     private static void promise28IntsWrap() {
         EachIsHit x = new EachIsHit();
         x.rule(2, 3, 0, 9);
@@ -306,6 +338,7 @@ public final class RulesBoundsTest {
         due("a sum wraps", x.worth(11, 225), (int) (450L * 4782969));
     }
 
+    @Says("What a RULE tells of a SET.")
     private static void promise28AsDeepAsThereAreRules() {
         EachIsHit x = new EachIsHit();
         for (int r = 4; r < 12; r++) {
@@ -333,6 +366,7 @@ public final class RulesBoundsTest {
         due("how " + how + (isByA ? " by a" : " by b"), x.worth(11, set), want);
     }
 
+    @Says({"0 what a tells, and what b tells;", "More come by hows:"})
     private static void promise28EachHowAsDeepAsThereAreRules() {
         dueChain(0, true, 0, 0x803, 0x803 + 8 * 3);
         dueChain(0, false, 0, 0x803, 0x803 + 8 * 3);
@@ -349,10 +383,12 @@ public final class RulesBoundsTest {
 
     // ---- 29: best
 
+    @Says("BAD;")
     private static void promise29FamilyIs0To3() {
         Still.bounds("family", 0, 3, (x, v) -> x.best(v, 0, 0));
     }
 
+    @Says("BAD;")
     private static void promise29RuleIsOneThereIs() {
         Still.after(x -> { }, "-1", x -> x.best(0, -1, 0), BAD);
         Still.after(x -> { }, "4 of 4", x -> x.best(0, 4, 0), BAD);
@@ -363,16 +399,19 @@ public final class RulesBoundsTest {
         Still.is("least", x -> x.best(0, LEAST, 0), BAD);
     }
 
+    @Says("BAD;")
     private static void promise29WhatIs0To1() {
         Still.bounds("what", 0, 1, (x, v) -> x.best(0, 0, v));
     }
 
+    @Says("NONE: DUAL is empty.")
     private static void promise29DualIsEmpty() {
         Still.after(x -> x.tell(0, 0), "which", x -> x.best(0, 0, 0), NONE);
         Still.after(x -> x.tell(0, 0), "what it tells", x -> x.best(0, 0, 1), NONE);
         Still.is("with others", x -> x.best(3, 3, 0), NONE);
     }
 
+    @Says({"Of DUAL of a FAMILY the SET of which a RULE tells least,", "and what it tells (1)."})
     private static void promise29OfAnEmptyFamily() {
         Still.after(x -> { }, "which", x -> x.best(0, 3, 0), 0);
         Still.after(x -> { }, "what it tells", x -> x.best(0, 3, 1), 0);
@@ -382,6 +421,11 @@ public final class RulesBoundsTest {
         due("what it tells", x.best(0, 4, 1), 4095);
     }
 
+    @Says({
+        "Of DUAL of a FAMILY the SET of which a RULE tells least,",
+        "of like ones the first (what 0),",
+        "and what it tells (1).",
+    })
     private static void promise29OfLikeOnesTheFirst() {
         EachIsHit x = new EachIsHit();
         x.tell(0, 4095);
@@ -396,6 +440,7 @@ public final class RulesBoundsTest {
         due("what it tells", x.best(0, 1, 1), 0);
     }
 
+    @Says("Of DUAL of a FAMILY the SET of which a RULE tells least,")
     private static void promise29OfAllPointsAlone() {
         EachIsHit x = new EachIsHit();
         x.make(0, 0, 12, 1);
@@ -405,6 +450,7 @@ public final class RulesBoundsTest {
         due("with a whole", x.best(0, 0, 1), 12);
     }
 
+    @Says("Ints wrap.")
     private static void promise29WhatWraps() {
         EachIsHit x = new EachIsHit();
         x.rule(2, 3, 0, 9);
@@ -417,6 +463,7 @@ public final class RulesBoundsTest {
         due("what it tells", x.best(0, 11, 1), (int) (64L * 43046721));
     }
 
+    @Says("of several the one that stands first with it;")
     private static void promise29BadAheadOfNone() {
         Still.is("rule", x -> x.best(3, 8, 0), BAD);
         Still.is("what", x -> x.best(3, 0, 2), BAD);
@@ -425,10 +472,12 @@ public final class RulesBoundsTest {
 
     // ---- 30, 31: ranked, sums
 
+    @Says("BAD: f, rule;")
     private static void promise30FamilyIs0To3() {
         Still.bounds("family", 0, 3, (x, v) -> x.ranked(v, 0, 0));
     }
 
+    @Says("BAD: f, rule;")
     private static void promise30RuleIsOneThereIs() {
         Still.is("-1", x -> x.ranked(0, -1, 0), BAD);
         Still.is("8 of 8", x -> x.ranked(0, 8, 0), BAD);
@@ -437,6 +486,7 @@ public final class RulesBoundsTest {
         Still.after(x -> x.tell(0, 9), "4 of 4", x -> x.ranked(0, 4, 0), BAD);
     }
 
+    @Says({"the one at place k.", "PLACE."})
     private static void promise30PlaceIs0ToBelowSize() {
         Still.is("-1", x -> x.ranked(1, 3, -1), PLACE);
         Still.is("0", x -> x.ranked(1, 3, 0), 5);
@@ -448,6 +498,7 @@ public final class RulesBoundsTest {
         Still.after(x -> { }, "of none", x -> x.ranked(0, 0, 0), PLACE);
     }
 
+    @Says({"SETS of a FAMILY in order of what a RULE tells,", "of like ones as they came:", "the one at place k."})
     private static void promise30OfForty() {
         EachIsHit x = new EachIsHit();
         for (int i = 39; i >= 0; i--) {
@@ -463,6 +514,7 @@ public final class RulesBoundsTest {
         }
     }
 
+    @Says("SETS of a FAMILY in order of what a RULE tells,")
     private static void promise30WhatWraps() {
         EachIsHit x = new EachIsHit();
         x.rule(2, 3, 0, 9);
@@ -477,16 +529,19 @@ public final class RulesBoundsTest {
         due("far above 0", x.ranked(0, 11, 2), 49);
     }
 
+    @Says("of several the one that stands first with it;")
     private static void promise30BadAheadOfPlace() {
         Still.is("family", x -> x.ranked(4, 0, -1), BAD);
         Still.is("rule", x -> x.ranked(0, 8, 99), BAD);
         Still.after(x -> { }, "rule, of none", x -> x.ranked(0, 4, 0), BAD);
     }
 
+    @Says("BAD.")
     private static void promise31FamilyIs0To3() {
         Still.bounds("family", 0, 3, (x, v) -> x.sums(v, 0));
     }
 
+    @Says("BAD.")
     private static void promise31RuleIsOneThereIs() {
         Still.is("-1", x -> x.sums(0, -1), BAD);
         Still.is("8 of 8", x -> x.sums(0, 8), BAD);
@@ -495,6 +550,7 @@ public final class RulesBoundsTest {
         Still.after(x -> { }, "4 of 4", x -> x.sums(0, 4), BAD);
     }
 
+    @Says("What a RULE tells of all SETS of a FAMILY, each as often as its TALLY, together.")
     private static void promise31OfNoneAndOfTheEmptySet() {
         Still.after(x -> { }, "of none", x -> x.sums(0, 3), 0);
         Still.after(x -> x.tell(0, 0), "of the empty set", x -> x.sums(0, 3), 0);
@@ -506,6 +562,7 @@ public final class RulesBoundsTest {
         due("of the empty set", x.sums(0, 4), 2 * 4095);
     }
 
+    @Says("What a RULE tells of all SETS of a FAMILY, each as often as its TALLY, together.")
     private static void promise31EachAsOftenAsItsTally() {
         EachIsHit x = new EachIsHit();
         for (int i = 0; i < 100; i++) {
@@ -518,6 +575,7 @@ public final class RulesBoundsTest {
         due("98 times and one", x.sums(0, 0), 98 * 12 + 1);
     }
 
+    @Says("Ints wrap.")
     private static void promise31IntsWrap() {
         EachIsHit x = new EachIsHit();
         x.rule(2, 3, 0, 9);

@@ -37,15 +37,23 @@ public final class SheetsBoundsTest {
 
     // ---- 32: sheet
 
+    @Says("BAD: s, sort, n above 40;")
     private static void promise32SheetIs0To3() {
         Still.bounds("sheet, longs", 0, 3, (x, v) -> x.sheet(v, 1, 2));
         Still.bounds("sheet, missing", 0, 3, (x, v) -> x.sheet(v, -1, 2));
     }
 
+    @Says("BAD: s, sort, n above 40;")
     private static void promise32SortIsMinus1To1() {
         Still.bounds("sort", -1, 1, (x, v) -> x.sheet(0, v, 2));
     }
 
+    @Says({
+        "A SHEET becomes a row of n of a sort, all 0,",
+        "BAD: s, sort, n above 40;",
+        "SIZE: n below 0.",
+        "SHEETS 0 .. 3 are rows of 0 to 40 numbers:",
+    })
     private static void promise32PlacesAre0To40() {
         for (int sort = 0; sort < 2; sort++) {
             int r = sort;
@@ -67,6 +75,7 @@ public final class SheetsBoundsTest {
         }
     }
 
+    @Says("or missing (sort -1; n doesn't matter): 1.")
     private static void promise32MissingNDoesntMatter() {
         for (int n : new int[] {LEAST, -1, 0, 40, 41, GREATEST}) {
             EachIsHit x = withLongs(2);
@@ -77,6 +86,7 @@ public final class SheetsBoundsTest {
         }
     }
 
+    @Says("A SHEET becomes a row of n of a sort, all 0,")
     private static void promise32AllZero() {
         EachIsHit x = withLongs(40);
         due("longs again", x.sheet(0, 1, 40), 1);
@@ -97,6 +107,7 @@ public final class SheetsBoundsTest {
         }
     }
 
+    @Says("A SHEET becomes a row of n of a sort, all 0,")
     private static void promise32OtherSheetsStay() {
         EachIsHit x = Still.busyOne();
         due("sheet", x.sheet(MISSING, 1, 40), 1);
@@ -106,6 +117,7 @@ public final class SheetsBoundsTest {
         due("acts", x.count(1), 9);
     }
 
+    @Says("of several the one that stands first with it;")
     private static void promise32BadAheadOfSize() {
         Still.bad("sheet", x -> x.sheet(4, 0, -1));
         Still.bad("sheet", x -> x.sheet(-1, 1, -1));
@@ -115,15 +127,18 @@ public final class SheetsBoundsTest {
 
     // ---- 33, 34: cell, read
 
+    @Says("BAD: s;")
     private static void promise33SheetIs0To3() {
         Still.bounds("sheet", 0, 3, (x, v) -> x.cell(v, 0, 5));
     }
 
+    @Says("NOTHING;")
     private static void promise33NothingWhereItIsMissing() {
         Still.after(x -> { }, "at first", x -> x.cell(3, 0, 5), NOTHING);
         Still.is("missing", x -> x.cell(MISSING, 0, 5), NOTHING);
     }
 
+    @Says({"Place i of a SHEET becomes v", "PLACE."})
     private static void promise33PlaceIs0ToBelowPlaces() {
         for (int i : new int[] {LEAST, -1, 3, 40, GREATEST}) {
             Still.is("place " + i, x -> x.cell(LONGS, i, 5), PLACE);
@@ -140,6 +155,7 @@ public final class SheetsBoundsTest {
         due("read 39", x.read(0, 39), 6);
     }
 
+    @Says({"(of ints its lowest 32 bits): 1.", "of sort 0 ints,"})
     private static void promise33OfIntsItsLowest32Bits() {
         EachIsHit x = new EachIsHit();
         x.sheet(0, 0, 1);
@@ -153,6 +169,7 @@ public final class SheetsBoundsTest {
         }
     }
 
+    @Says({"Place i of a SHEET becomes v", "1 longs,"})
     private static void promise33OfLongsAllBits() {
         EachIsHit x = new EachIsHit();
         x.sheet(0, 1, 1);
@@ -162,21 +179,25 @@ public final class SheetsBoundsTest {
         }
     }
 
+    @Says("of several the one that stands first with it;")
     private static void promise33RefusalsInTheirOrder() {
         Still.bad("no sheet, no place", x -> x.cell(4, -1, 5));
         Still.is("missing, no place", x -> x.cell(MISSING, -1, 5), NOTHING);
         Still.is("missing, no place", x -> x.cell(MISSING, 40, 5), NOTHING);
     }
 
+    @Says("BAD: s;")
     private static void promise34SheetIs0To3() {
         Still.bounds("sheet", 0, 3, (x, v) -> x.read(v, 0));
     }
 
+    @Says({"NOTHING;", "or missing (-1; at first)."})
     private static void promise34NothingWhereItIsMissing() {
         Still.after(x -> { }, "at first", x -> x.read(3, 0), NOTHING);
         Still.is("missing", x -> x.read(MISSING, 0), NOTHING);
     }
 
+    @Says({"Place i of a SHEET.", "PLACE."})
     private static void promise34PlaceIs0ToBelowPlaces() {
         for (int i : new int[] {LEAST, -1, 3, 40, GREATEST}) {
             Still.is("place " + i, x -> x.read(LONGS, i), PLACE);
@@ -188,6 +209,7 @@ public final class SheetsBoundsTest {
         Still.is("place 0 of 0", x -> x.read(NO_PLACES, 0), PLACE);
     }
 
+    @Says("of several the one that stands first with it;")
     private static void promise34RefusalsInTheirOrder() {
         Still.bad("no sheet, no place", x -> x.read(4, -1));
         Still.is("missing, no place", x -> x.read(MISSING, -1), NOTHING);
@@ -195,14 +217,21 @@ public final class SheetsBoundsTest {
 
     // ---- 35: packs
 
+    @Says("BAD;")
     private static void promise35SheetIs0To3() {
         Still.bounds("sheet", 0, 3, (x, v) -> x.packs(v, 1));
     }
 
+    @Says("BAD;")
     private static void promise35FamilyIs0To3() {
         Still.bounds("family", 0, 3, (x, v) -> x.packs(LONGS, v));
     }
 
+    @Says({
+        "SETS of a FAMILY, in order, come PACKED to places 0, 1, .. of a SHEET of longs,",
+        "the last long filled up with 0:",
+        "how many places.",
+    })
     private static void promise35FiveToALong() {
         for (int sets : new int[] {0, 1, 4, 5, 6, 39, 40}) {
             EachIsHit x = withLongs(40);
@@ -216,6 +245,7 @@ public final class SheetsBoundsTest {
         }
     }
 
+    @Says("the last long filled up with 0:")
     private static void promise35WhatWasTakenIsNotPacked() {
         EachIsHit x = withLongs(2);
         fill(x, 6);
@@ -230,6 +260,7 @@ public final class SheetsBoundsTest {
         due("one, and 0", x.read(0, 0), 4095);
     }
 
+    @Says("Five SETS are PACKED in a long: the first in its lowest 12 bits, the next ones in the next higher ones.")
     private static void promise35AllBitsOfASet() {
         EachIsHit x = withLongs(1);
         x.tell(0, 4095);
@@ -241,6 +272,7 @@ public final class SheetsBoundsTest {
         due("read", x.read(0, 0), 4095 + (2048L << 24) + (1L << 36) + (4094L << 48));
     }
 
+    @Says("PLACE: what stands ahead came.")
     private static void promise35PlaceWhatStandsAheadCame() {
         EachIsHit x = withLongs(7);
         fill(x, 35);
@@ -256,17 +288,20 @@ public final class SheetsBoundsTest {
         Still.is("no places at all", y -> y.packs(NO_PLACES, 0), PLACE);
     }
 
+    @Says("how many places.")
     private static void promise35NoneNeedNoPlaces() {
         Still.afterMore(x -> x.wipe(0), "no places, no sets", x -> x.packs(NO_PLACES, 0), 0);
         Still.afterMore(x -> x.wipe(0), "places, no sets", x -> x.packs(LONGS, 0), 0);
     }
 
+    @Says({"NOTHING;", "KIND: it is none of longs;"})
     private static void promise35NothingAndKind() {
         Still.after(x -> { }, "missing at first", x -> x.packs(0, 0), NOTHING);
         Still.is("missing", x -> x.packs(MISSING, 1), NOTHING);
         Still.is("ints", x -> x.packs(INTS, 1), KIND);
     }
 
+    @Says("of several the one that stands first with it;")
     private static void promise35RefusalsInTheirOrder() {
         Still.is("missing, no family", x -> x.packs(MISSING, 4), BAD);
         Still.is("ints, no family", x -> x.packs(INTS, -1), BAD);
@@ -277,14 +312,20 @@ public final class SheetsBoundsTest {
 
     // ---- 36: unpacks
 
+    @Says("BAD;")
     private static void promise36SheetIs0To3() {
         Still.bounds("sheet", 0, 3, (x, v) -> x.unpacks(v, 1, 0));
     }
 
+    @Says("BAD;")
     private static void promise36FamilyIs0To3() {
         Still.bounds("family", 0, 3, (x, v) -> x.unpacks(LONGS, v, 1));
     }
 
+    @Says({
+        "BAD;",
+        "n (0 .. 200) SETS that are PACKED from place 0 of a SHEET of longs on are TOLD to a FAMILY, one by one: how many were",
+    })
     private static void promise36NIs0To200() {
         Still.bounds("n", 0, 200, (x, v) -> x.unpacks(LONGS, 1, v));
         EachIsHit x = new EachIsHit();
@@ -297,6 +338,7 @@ public final class SheetsBoundsTest {
         due("tally", x.tally(1, 0), 99);
     }
 
+    @Says("n (0 .. 200) SETS that are PACKED from place 0 of a SHEET of longs on are TOLD to a FAMILY, one by one: how many were")
     private static void promise36OneByOneInOrder() {
         EachIsHit x = new EachIsHit();
         x.sheet(0, 1, 2);
@@ -313,6 +355,7 @@ public final class SheetsBoundsTest {
         due("the highest four bits are no set's", x.at(2, 4), 14);
     }
 
+    @Says("Five SETS are PACKED in a long: the first in its lowest 12 bits, the next ones in the next higher ones.")
     private static void promise36AllBitsOfASet() {
         EachIsHit x = withLongs(1);
         due("unpacks", x.unpacks(0, 0, 5), 5);
@@ -323,6 +366,7 @@ public final class SheetsBoundsTest {
         due("the empty set", x.tally(1, 0), 5);
     }
 
+    @Says("PLACE: what stood ahead was.")
     private static void promise36PlaceWhatStoodAheadWasTold() {
         EachIsHit x = new EachIsHit();
         x.sheet(0, 1, 2);
@@ -337,6 +381,7 @@ public final class SheetsBoundsTest {
         due("tally", x.tally(2, 10), 1);
     }
 
+    @Says("PLACE: what stood ahead was.")
     private static void promise36NoPlaces() {
         EachIsHit x = new EachIsHit();
         x.sheet(0, 1, 0);
@@ -349,6 +394,7 @@ public final class SheetsBoundsTest {
         due("it forgets", x.count(1), 0);
     }
 
+    @Says("(those for which it is FULL are left out).")
     private static void promise36FullOnesAreLeftOut() {
         EachIsHit x = new EachIsHit();
         for (int i = 0; i < 38; i++) {
@@ -366,6 +412,7 @@ public final class SheetsBoundsTest {
         due("held", x.tally(0, 100), 2);
     }
 
+    @Says("(those for which it is FULL are left out).")
     private static void promise36ToldAt99IsTold() {
         EachIsHit x = new EachIsHit();
         x.sheet(0, 1, 40);
@@ -377,6 +424,10 @@ public final class SheetsBoundsTest {
         due("99 stays", x.tally(0, 0), 99);
     }
 
+    @Says({
+        "wipe(), copy(), lean(), into(), make(), unpacks(), back() forget them all,",
+        "(unpacks() also, where PLACE is answered).",
+    })
     private static void promise36ForgetsWhereNotRefused() {
         for (int n : new int[] {0, 5, 15, 16, 200}) {
             EachIsHit x = Still.busyOne();
@@ -387,6 +438,7 @@ public final class SheetsBoundsTest {
         }
     }
 
+    @Says("n (0 .. 200) SETS that are PACKED from place 0 of a SHEET of longs on are TOLD to a FAMILY, one by one: how many were")
     private static void promise36SheetStays() {
         EachIsHit x = Still.busyOne();
         x.unpacks(LONGS, 1, 15);
@@ -394,6 +446,7 @@ public final class SheetsBoundsTest {
         due("place 2", x.read(LONGS, 2), Long.MIN_VALUE);
     }
 
+    @Says({"NOTHING;", "KIND: it is none of longs;"})
     private static void promise36NothingAndKind() {
         Still.after(x -> x.price(0, 2), "missing at first", x -> x.unpacks(0, 0, 0), NOTHING);
         Still.is("missing", x -> x.unpacks(MISSING, 1, 1), NOTHING);
@@ -401,6 +454,7 @@ public final class SheetsBoundsTest {
         Still.is("ints", x -> x.unpacks(INTS, 1, 1), KIND);
     }
 
+    @Says("of several the one that stands first with it;")
     private static void promise36RefusalsInTheirOrder() {
         Still.is("missing, n above", x -> x.unpacks(MISSING, 1, 201), BAD);
         Still.is("missing, n below", x -> x.unpacks(MISSING, 1, -1), BAD);
@@ -413,14 +467,20 @@ public final class SheetsBoundsTest {
 
     // ---- 37: freqs
 
+    @Says("BAD;")
     private static void promise37SheetIs0To3() {
         Still.bounds("sheet", 0, 3, (x, v) -> x.freqs(v, 1));
     }
 
+    @Says("BAD;")
     private static void promise37FamilyIs0To3() {
         Still.bounds("family", 0, 3, (x, v) -> x.freqs(INTS, v));
     }
 
+    @Says({
+        "Places 0 .. 11 of a SHEET become how many SETS of a FAMILY have POINT 0 .. 11: 12.",
+        "PLACE: what stands ahead came.",
+    })
     private static void promise37TwelvePlaces() {
         for (int sort = 0; sort < 2; sort++) {
             for (int places = 11; places <= 13; places++) {
@@ -442,6 +502,7 @@ public final class SheetsBoundsTest {
         }
     }
 
+    @Says("Places 0 .. 11 of a SHEET become how many SETS of a FAMILY have POINT 0 .. 11: 12.")
     private static void promise37From0To40() {
         EachIsHit x = new EachIsHit();
         x.sheet(0, 0, 12);
@@ -459,6 +520,7 @@ public final class SheetsBoundsTest {
         due("acts", x.count(1), 20);
     }
 
+    @Says({"NOTHING;", "PLACE: what stands ahead came."})
     private static void promise37NoPlacesAndNothing() {
         Still.is("no places", x -> x.freqs(NO_PLACES, 0), PLACE);
         Still.is("missing", x -> x.freqs(MISSING, 0), NOTHING);
@@ -470,6 +532,7 @@ public final class SheetsBoundsTest {
         due("point 2", x.read(LONGS, 2), 2);
     }
 
+    @Says("of several the one that stands first with it;")
     private static void promise37RefusalsInTheirOrder() {
         Still.is("missing, no family", x -> x.freqs(MISSING, 4), BAD);
         Still.is("no places, no family", x -> x.freqs(NO_PLACES, -1), BAD);
@@ -477,6 +540,7 @@ public final class SheetsBoundsTest {
 
     // ---- 38, 39: image, back
 
+    @Says("how many SETS all FAMILIES hold, together.")
     private static void promise38HowManySetsInAll() {
         EachIsHit x = new EachIsHit();
         due("none", x.image(), 0);
@@ -490,6 +554,7 @@ public final class SheetsBoundsTest {
         due("sets, not tallies", x.image(), 160);
     }
 
+    @Says("AN IMAGE is kept:")
     private static void promise38ChangesNothingButTheImage() {
         EachIsHit x = new EachIsHit();
         x.tell(0, 5);
@@ -504,6 +569,11 @@ public final class SheetsBoundsTest {
         due("price", x.priceOf(3), 7);
     }
 
+    @Says({
+        "AN IMAGE is kept:",
+        "how many SETS all FAMILIES hold, together.",
+        "AN IMAGE keeps PRICES, FAMILIES with TALLIES and order, how many RULES there are.",
+    })
     private static void promise38TheLastOneCounts() {
         EachIsHit x = new EachIsHit();
         x.tell(0, 5);
@@ -524,6 +594,7 @@ public final class SheetsBoundsTest {
         due("worth", x.worth(5, 1), 8);
     }
 
+    @Says("STATE: there is none.")
     private static void promise39StateWhereThereIsNone() {
         Still.after(x -> { }, "a new object", x -> x.back(), STATE);
         Still.after(x -> {
@@ -534,6 +605,11 @@ public final class SheetsBoundsTest {
         }, "one with acts", x -> x.back(), STATE);
     }
 
+    @Says({
+        "All that it keeps is as in THE IMAGE,",
+        "how many SETS all FAMILIES hold, together.",
+        "AN IMAGE keeps PRICES, FAMILIES with TALLIES and order, how many RULES there are.",
+    })
     private static void promise39AllThatItKeeps() {
         EachIsHit x = new EachIsHit();
         x.tell(3, 4095);
@@ -559,6 +635,7 @@ public final class SheetsBoundsTest {
         due("price 11", x.priceOf(11), 0);
     }
 
+    @Says({"All that it keeps is as in THE IMAGE,", "how many SETS all FAMILIES hold, together."})
     private static void promise39OfAnEmptyImage() {
         EachIsHit x = new EachIsHit();
         due("image", x.image(), 0);
@@ -569,6 +646,7 @@ public final class SheetsBoundsTest {
         due("prices", x.count(2), 12);
     }
 
+    @Says("RULES that came since are none:")
     private static void promise39RulesThatCameSinceAreNone() {
         EachIsHit x = new EachIsHit();
         x.rule(2, 0, 0, 2);
@@ -586,6 +664,7 @@ public final class SheetsBoundsTest {
         due("none such", x.sums(0, 5), BAD);
     }
 
+    @Says("All that it keeps is as in THE IMAGE,")
     private static void promise39AgainAndAgain() {
         EachIsHit x = new EachIsHit();
         x.tell(1, 9);
@@ -601,6 +680,7 @@ public final class SheetsBoundsTest {
         }
     }
 
+    @Says("wipe(), copy(), lean(), into(), make(), unpacks(), back() forget them all,")
     private static void promise39ForgetsAllActs() {
         EachIsHit x = new EachIsHit();
         x.tell(1, 9);
@@ -611,6 +691,7 @@ public final class SheetsBoundsTest {
         due("size", x.size(1), 1);
     }
 
+    @Says("AN IMAGE keeps PRICES, FAMILIES with TALLIES and order, how many RULES there are.")
     private static void promise39SheetsStay() {
         EachIsHit x = new EachIsHit();
         x.sheet(0, 1, 2);
@@ -624,6 +705,7 @@ public final class SheetsBoundsTest {
 
     // ---- 40: count
 
+    @Says({"0 RULES,", "1 REMEMBERED acts,", "2 PRICES of all POINTS together.", "BAD."})
     private static void promise40WhatIs0To2() {
         Still.bounds("what", 0, 2, (x, v) -> x.count(v));
         Still.is("rules", x -> x.count(0), 8);
@@ -631,6 +713,7 @@ public final class SheetsBoundsTest {
         Still.is("prices", x -> x.count(2), 98 + 8 * 55);
     }
 
+    @Says({"0 RULES,", "1 REMEMBERED acts,", "2 PRICES of all POINTS together."})
     private static void promise40AtTheLimits() {
         EachIsHit x = new EachIsHit();
         for (int p = 0; p < 12; p++) {

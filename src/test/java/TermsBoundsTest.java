@@ -9,6 +9,7 @@ public final class TermsBoundsTest {
         Due.due(call, got, want);
     }
 
+    @Says("What is asked changes nothing, but where told.")
     private static void termsAskedPricesAndFamilies() {
         Still.asked("priceOf", x -> x.priceOf(11));
         Still.asked("tally", x -> x.tally(0, 3));
@@ -20,6 +21,7 @@ public final class TermsBoundsTest {
         Still.asked("count", x -> x.count(1));
     }
 
+    @Says("What is asked changes nothing, but where told.")
     private static void termsAskedWhatHits() {
         for (int family = 0; family < 4; family++) {
             int f = family;
@@ -47,6 +49,7 @@ public final class TermsBoundsTest {
         }
     }
 
+    @Says("What is asked changes nothing, but where told.")
     private static void termsAskedRulesAndSheets() {
         for (int rule = 0; rule < 8; rule++) {
             int r = rule;
@@ -70,6 +73,11 @@ public final class TermsBoundsTest {
         due("acts behind " + name, x.count(1), acts);
     }
 
+    @Says({
+        "by price() that a PRICE became another one;",
+        "by tell() a SET that was TOLD, if that changed anything;",
+        "by take() one that was TAKEN.",
+    })
     private static void termsActsThatAreRemembered() {
         dueActs("price", x -> x.price(0, 3), 10);
         dueActs("price as it is", x -> x.price(0, 98), 9);
@@ -78,8 +86,16 @@ public final class TermsBoundsTest {
         dueActs("take", x -> x.take(0, 3), 10);
         dueActs("take the last", x -> x.take(0, 6), 10);
         dueActs("undo", x -> x.undo(), 8);
+        EachIsHit x = new EachIsHit();
+        for (int t = 0; t < 99; t++) {
+            x.tell(0, 3);
+        }
+        x.wipe(1);
+        due("tell at 99", x.tell(0, 3), 99);
+        due("acts behind tell at 99", x.count(1), 0);
     }
 
+    @Says("wipe(), copy(), lean(), into(), make(), unpacks(), back() forget them all,")
     private static void termsActsAreForgottenBySeven() {
         dueActs("wipe", x -> x.wipe(0), 0);
         dueActs("copy", x -> x.copy(0, 1), 0);
@@ -90,6 +106,7 @@ public final class TermsBoundsTest {
         dueActs("back", x -> x.back(), 0);
     }
 
+    @Says("wipe(), copy(), lean(), into(), make(), unpacks(), back() forget them all,")
     private static void termsActsAreKeptByOthers() {
         dueActs("rule", x -> x.rule(6, 0, 0, 0), 9);
         dueActs("sheet", x -> x.sheet(0, 0, 4), 9);
@@ -99,6 +116,7 @@ public final class TermsBoundsTest {
         dueActs("image", x -> x.image(), 9);
     }
 
+    @Says({"where they are not refused", "it changes nothing, but where told."})
     private static void termsRefusedOnesOfSevenForgetNothing() {
         Still.is("wipe", x -> x.wipe(4), BAD);
         Still.is("copy", x -> x.copy(0, 4), BAD);
@@ -113,6 +131,7 @@ public final class TermsBoundsTest {
         Still.is("unpacks", x -> x.unpacks(0, 0, 201), BAD);
     }
 
+    @Says("A FAMILY that BECOMES what is told holds just that (all that it held is gone).")
     private static void termsBecomesHoldsJustThat() {
         EachIsHit x = Still.busyOne();
         due("copy", x.copy(3, 2), 2);
@@ -123,6 +142,7 @@ public final class TermsBoundsTest {
         due("often", x.often(2, 0), 0);
     }
 
+    @Says("each once,")
     private static void termsFamiliesHoldEachSetOnce() {
         EachIsHit x = new EachIsHit();
         for (int i = 0; i < 80; i++) {
@@ -133,6 +153,7 @@ public final class TermsBoundsTest {
         due("all", x.support(0, 0), 80);
     }
 
+    @Says("An object is used for at most 512 calls after it has been made;")
     private static void termsGoodFor512Calls() {
         EachIsHit x = new EachIsHit();
         for (int i = 0; i < 127; i++) {
@@ -147,6 +168,10 @@ public final class TermsBoundsTest {
         due("undo at the 512th call", x.undo(), 18);
     }
 
+    @Says({
+        "1: their PRICES (as they are when it is asked), together.",
+        "7 how many SETS of FAMILY c (as it is when it is asked) it has a POINT of;",
+    })
     private static void termsRulesThatAreAskedOfAChangedObject() {
         // What a rule told once must not stick.
         EachIsHit x = new EachIsHit();
