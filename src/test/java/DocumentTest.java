@@ -1,19 +1,29 @@
 import java.io.IOException;
+import java.lang.reflect.Field;
 import java.lang.reflect.Method;
+import java.lang.reflect.Modifier;
 import java.nio.file.Files;
 import java.nio.file.Path;
+import java.util.Arrays;
 import java.util.List;
 import java.util.Map;
+import java.util.Set;
 import java.util.TreeMap;
+import java.util.TreeSet;
+import java.util.regex.Matcher;
+import java.util.regex.Pattern;
 
 /**
  * All words of the document by which a call answers or changes something stand above a test, as what it Says. The words
- * are looked for with the promise by which the test is named, or else ahead of all promises.
+ * are looked for with the promise by which the test is named, or else ahead of all promises. The class's face is the
+ * document's.
  */
 public final class DocumentTest {
     private static final Path DOCUMENT = Path.of("../shared/DOC.md");
     private static final int PROMISES = 40;
     private static final int AHEAD = 0;
+    // 39 methods, 8 constants.
+    private static final int FACE = 47;
 
     static final List<Class<?>> TESTS = List.of(FamiliesBoundsTest.class, HitsBoundsTest.class, RulesBoundsTest.class,
         SheetsBoundsTest.class, TermsBoundsTest.class, SentencesTest.class);
@@ -102,7 +112,36 @@ public final class DocumentTest {
         }
     }
 
-    public static void main(String[] args) throws IOException {
+    /** Each line of the document's face, as "int price(int,int)" or "NONE = -1". */
+    private static Set<String> faceOf(String document) {
+        Set<String> face = new TreeSet<>();
+        Matcher method = Pattern.compile("(?m)^    public (int|long) (\\w+)\\((.*)\\);$").matcher(document);
+        while (method.find()) {
+            String types = method.group(3).replaceAll("(int|long) \\w+", "$1").replace(" ", "");
+            face.add(method.group(1) + " " + method.group(2) + "(" + types + ")");
+        }
+        Matcher constants = Pattern.compile("(?m)^    public static final int (.*);$").matcher(document);
+        while (constants.find()) {
+            face.addAll(List.of(constants.group(1).split(", ")));
+        }
+        return face;
+    }
+
+    private static Set<String> faceOfClass() throws IllegalAccessException {
+        Set<String> face = new TreeSet<>();
+        for (Method method : EachIsHit.class.getDeclaredMethods()) {
+            if (Modifier.isPublic(method.getModifiers())) {
+                String types = Arrays.toString(method.getParameterTypes()).replaceAll("[\\[\\] ]", "");
+                face.add(method.getReturnType() + " " + method.getName() + "(" + types + ")");
+            }
+        }
+        for (Field field : EachIsHit.class.getFields()) {
+            face.add(field.getName() + " = " + field.getInt(null));
+        }
+        return face;
+    }
+
+    public static void main(String[] args) throws IOException, IllegalAccessException {
         if (!Files.isReadable(DOCUMENT)) {
             System.out.println("DocumentTest: there is no " + DOCUMENT + " to look at");
             return;
@@ -111,6 +150,8 @@ public final class DocumentTest {
         Map<Integer, StringBuilder> sections = read(document);
         Map<Integer, StringBuilder> left = read(document);
         Due.due("promises", sections.size() - 1, PROMISES);
+        Due.due("lines of the face", faceOf(document).size(), FACE);
+        Due.holds("the face is " + faceOf(document), faceOf(document).equals(faceOfClass()));
         blankAll(sections, left);
         for (Map.Entry<Integer, StringBuilder> section : left.entrySet()) {
             String rest = folded(section.getValue().toString());

@@ -1,4 +1,7 @@
 import java.io.IOException;
+import java.lang.reflect.Field;
+import java.lang.reflect.Method;
+import java.lang.reflect.Modifier;
 import java.nio.file.Files;
 import java.nio.file.Path;
 import java.util.regex.Matcher;
@@ -9,9 +12,15 @@ public final class LanguageTest {
     private static final String[] NEVER = {
         "\\bthrow\\b", "\\btry\\b", "\\bcatch\\b", "\\bsynchronized\\b", "\\bassert\\b", "->", "::", "Exact\\b",
         "\\bpackage\\b", "\\bhashCode\\b", "\\btoString\\b", "\\bprotected\\b", "\\bdouble\\b", "\\bfloat\\b",
-        "static \\{", "\\bRandom\\b", "\\bThread\\b", "\\bcurrentTimeMillis\\b", "\\bnanoTime\\b", "\\bnew [A-Za-z]+\\([^)]*\\) \\{",
+        "static \\{", "while \\(true\\)", ";;", "\\bRandom\\b", "\\bThread\\b", "\\bcurrentTimeMillis\\b",
+        "\\bnanoTime\\b", "\\bnew [A-Za-z]+\\([^)]*\\) \\{",
     };
     private static final int MOST_LINES = 60;
+    private static final int MOST_PARAMETERS = 7;
+    private static final int MOST_FIELDS = 20;
+    private static final int MOST_CLASSES = 12;
+    private static final String LIBRARY = "(Math|Integer|Long)\\.(?!\\w*Exact)\\w+|System\\.arraycopy"
+        + "|Arrays\\.(fill|copyOf|copyOfRange)|List\\.of";
 
     /** Comments become blanks, lines stay; the source has no texts that could look like one. */
     private static String withoutComments(String source) {
@@ -49,6 +58,43 @@ public final class LanguageTest {
         }
     }
 
+    /** Each call of a static method of another class is one of those that rule 4 lists. */
+    private static void callsAreListed(String code) {
+        Matcher call = Pattern.compile("\\b([A-Z]\\w*\\.\\w+)\\(").matcher(code);
+        while (call.find()) {
+            Due.holds(call.group(1) + " is listed", call.group(1).matches(LIBRARY));
+        }
+    }
+
+    private static void classIsSmall(Class<?> one) {
+        int fields = 0;
+        for (Field field : one.getDeclaredFields()) {
+            boolean isStatic = Modifier.isStatic(field.getModifiers());
+            fields += isStatic ? 0 : 1;
+            Due.holds(field + " is final, if it is static", !isStatic || Modifier.isFinal(field.getModifiers()));
+            Due.holds(field + " is of a type that rule 3 lists", isListed(field.getType()));
+        }
+        Due.holds(one + " has " + fields + " fields", fields <= MOST_FIELDS);
+        for (Method method : one.getDeclaredMethods()) {
+            Due.holds(method + " takes seven at most", method.getParameterCount() <= MOST_PARAMETERS);
+        }
+        int inside = one.getDeclaredClasses().length;
+        Due.holds(one + " has " + inside + " classes", inside < MOST_CLASSES);
+        for (Class<?> other : one.getDeclaredClasses()) {
+            Due.holds(other + " is static", Modifier.isStatic(other.getModifiers()));
+            classIsSmall(other);
+        }
+    }
+
+    /** Numbers, own classes, rows of these, and rows of rows of numbers. */
+    private static boolean isListed(Class<?> type) {
+        Class<?> part = type.isArray() ? type.getComponentType() : type;
+        if (part.isArray()) {
+            return part.getComponentType().isPrimitive();
+        }
+        return part.isPrimitive() || part.getName().startsWith("EachIsHit$");
+    }
+
     public static void main(String[] args) throws IOException {
         String source = Files.readString(Path.of("src/main/java/EachIsHit.java"));
         String code = withoutComments(source);
@@ -61,6 +107,8 @@ public final class LanguageTest {
         methodsAreShort(lines);
         staticsAreFinal(lines);
         importsAreListed(lines);
+        callsAreListed(code);
+        classIsSmall(EachIsHit.class);
         Due.end("LanguageTest");
     }
 }
